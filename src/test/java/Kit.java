@@ -1,0 +1,142 @@
+/** What all tests share: texts onto the TAPE, answers compared, exceptions named. */
+final class Kit {
+    /** A call of the face whose answer, or whose exception, is looked at. */
+    interface Call {
+        Object run();
+    }
+
+    static final String INDEX = "IndexOutOfBoundsException";
+    static final String ARGUMENT = "IllegalArgumentException";
+    static final String STATE = "IllegalStateException";
+    static final String ELEMENT = "NoSuchElementException";
+    static final String UNSUPPORTED = "UnsupportedOperationException";
+
+    private static int checks = 0;
+    private static int wrong = 0;
+
+    private Kit() {
+    }
+
+    static void is(String what, Object got, Object due) {
+        checks++;
+        if (!due.equals(got)) {
+            wrong++;
+            System.out.println(what + ": got " + got + ", due is " + due);
+        }
+    }
+
+    /** The exception must be of the very class that the document names, not of one below it. */
+    static void refuses(String what, String exception, Call call) {
+        is(what, answer(call), "throws " + exception);
+    }
+
+    static Object answer(Call call) {
+        try {
+            return call.run();
+        } catch (RuntimeException e) {
+            return "throws " + e.getClass().getSimpleName();
+        }
+    }
+
+    static void tape(LaceBonds x, int... bytes) {
+        x.end(0);
+        int[] padded = java.util.Arrays.copyOf(bytes, (bytes.length + 19) / 20 * 20);
+        for (int i = 0; i < padded.length; i += 20) {
+            x.feed(four(padded, i), four(padded, i + 4), four(padded, i + 8), four(padded, i + 12), four(padded, i + 16));
+        }
+        if (!x.end(bytes.length)) {
+            throw new AssertionError("the tape does not take " + bytes.length + " bytes");
+        }
+    }
+
+    static void text(LaceBonds x, String text) {
+        tape(x, text.chars().toArray());
+    }
+
+    static int four(int[] bytes, int at) {
+        return bytes[at] << 24 | bytes[at + 1] << 16 | bytes[at + 2] << 8 | bytes[at + 3];
+    }
+
+    /** A new object with these texts of THE LAND. */
+    static LaceBonds land(String... texts) {
+        LaceBonds x = new LaceBonds();
+        for (String text : texts) {
+            text(x, text);
+            x.land();
+        }
+        return x;
+    }
+
+    static LaceBonds lawOf(LaceBonds x, String text) {
+        text(x, text);
+        x.law();
+        return x;
+    }
+
+    /** A text that must be read to its end: no fault, and the answer that is due. */
+    static void reads(LaceBonds x, boolean land, String text, int due) {
+        text(x, text);
+        is((land ? "land " : "law ") + text, answer(() -> land ? x.land() : x.law()), due);
+        is("fault of " + text, x.fault(), LaceBonds.NONE);
+    }
+
+    /** A text that must be refused at that byte, and that leaves all as it was. */
+    static void wrongAt(LaceBonds x, boolean land, String text, int at) {
+        String before = all(x);
+        text(x, text);
+        refuses((land ? "land " : "law ") + text, ARGUMENT, () -> land ? x.land() : x.law());
+        is("fault of " + text, x.fault(), at);
+        is("the tape behind " + text, x.end(1), false);
+        is("state behind " + text, all(x), before);
+    }
+
+    /** A call that must be refused, and that leaves all as it was. */
+    static void leaves(LaceBonds x, String what, String exception, Call call) {
+        String before = all(x);
+        refuses(what, exception, call);
+        is("state behind " + what, all(x), before);
+    }
+
+    /** All that can be asked of an object without changing it, but for fault() and the TAPE. */
+    static String all(LaceBonds x) {
+        StringBuilder out = new StringBuilder();
+        for (int what = 0; what <= 10; what++) {
+            out.append(x.count(what)).append(' ');
+        }
+        int people = x.count(0);
+        for (int person = 0; person < people; person++) {
+            out.append("\nperson");
+            for (int what = 0; what <= 10; what++) {
+                out.append(' ').append(x.person(person, what));
+            }
+            out.append(' ').append(x.walks(person, 0)).append(' ').append(x.walks(person, 1));
+        }
+        for (int lace = 0; lace < 2 * people; lace++) {
+            out.append("\nlace");
+            for (int what = 0; what <= 5; what++) {
+                out.append(' ').append(x.lace(lace, what));
+            }
+            out.append(' ').append(x.grows(lace)).append(' ').append(x.led(lace, false)).append(' ').append(x.led(lace, true));
+        }
+        out.append("\nmud");
+        for (int place = 0; place < 20; place++) {
+            out.append(' ').append(x.mud(place));
+        }
+        for (int ago = 0; ago < x.count(9); ago++) {
+            out.append("\nlog");
+            for (int what = 0; what <= 3; what++) {
+                out.append(' ').append(x.log(ago, what));
+            }
+        }
+        int seed = x.seed(0);
+        x.seed(seed);
+        return out.append("\nseed ").append(seed).toString();
+    }
+
+    static void close(String name) {
+        System.out.println(name + ": " + checks + " checks, " + wrong + " wrong");
+        if (wrong != 0 || checks == 0) {
+            System.exit(1);
+        }
+    }
+}

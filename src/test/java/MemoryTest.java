@@ -1,0 +1,175 @@
+import java.util.ArrayList;
+import java.util.List;
+
+/** Promises 46 to 48: undo, image, back. */
+public final class MemoryTest {
+    private static final String THREE = "person 100 pace 5 at 0;person 20 pace 6 at 10;person 990 pace 4 at 5;pledge 0 to 1 for 5 knot 1 till 2 by 2"
+            + ";pledge 1 to 1 for 990 knot 1 till 3;goal 1 0;mud 3 4;fine 9";
+
+    public static void main(String[] args) {
+        eachAct();
+        twelve();
+        forgotten();
+        images();
+        between();
+        Kit.close("MemoryTest");
+    }
+
+    private static void eachAct() {
+        LaceBonds x = Kit.lawOf(Kit.land(THREE), "slow 1;fall 40;grow 2");
+        Kit.is("none yet", x.undo(), false);
+        undone(x, "lend", () -> x.lend(0, 2, 30, 4, 9));
+        undone(x, "pay", () -> x.pay(0));
+        undone(x, "surety", () -> x.surety(0, -1));
+        x.surety(0, -1);
+        undone(x, "give", () -> x.give(0, 2));
+        undone(x, "goal", () -> x.goal(2, 19));
+        undone(x, "goal as it is", () -> x.goal(2, 5));
+        undone(x, "rest", () -> x.rest(1));
+        undone(x, "days", () -> x.days(60));
+        undone(x, "a day", () -> x.days(1));
+        Kit.lawOf(x, "fall 99;fall 1");
+        x.days(2);
+        undone(x, "rest of the tired", () -> x.rest(1));
+        x.undo();
+        Kit.is("nothing is left", x.undo(), false);
+    }
+
+    private static void undone(LaceBonds x, String what, Kit.Call act) {
+        int acts = x.count(10);
+        String before = Kit.all(x);
+        act.run();
+        Kit.is(what + " is an act", x.count(10), acts + 1);
+        Kit.is("undo " + what, x.undo(), true);
+        Kit.is("as ahead of " + what, Kit.all(x), before);
+    }
+
+    private static void twelve() {
+        LaceBonds x = Kit.land(THREE);
+        List<String> states = new ArrayList<>();
+        for (int i = 0; i < 20; i++) {
+            states.add(body(x));
+            Kit.is("acts", x.count(10), Math.min(i, 12));
+            if (i % 4 == 0) {
+                x.days(1);
+            } else {
+                x.goal(0, i % 20);
+            }
+        }
+        for (int i = 19; i >= 8; i--) {
+            Kit.is("undo " + i, x.undo(), true);
+            Kit.is("state " + i, body(x), states.get(i));
+            Kit.is("left", x.count(10), i - 8);
+        }
+        Kit.is("the 13th is forgotten", x.undo(), false);
+        Kit.is("nothing happens", body(x), states.get(8));
+        x.goal(0, 1);
+        x.goal(0, 2);
+        x.undo();
+        x.goal(0, 3);
+        Kit.is("undone ones are gone", x.count(10), 2);
+        x.undo();
+        Kit.is("back to 1", x.person(0, 3), 1);
+    }
+
+    private static void forgotten() {
+        LaceBonds x = Kit.land(THREE);
+        x.goal(0, 1);
+        Kit.wrongAt(x, true, "x", 0);
+        Kit.wrongAt(x, false, "x", 0);
+        Kit.is("a wrong text forgets none", x.count(10), 1);
+        Kit.leaves(x, "an act refused", Kit.INDEX, () -> x.goal(0, 20));
+        Kit.reads(x, true, "", 2);
+        Kit.is("a text: none", x.count(10), 0);
+        Kit.is("no undo", x.undo(), false);
+        x.goal(0, 2);
+        Kit.reads(x, false, "", 0);
+        Kit.is("the law: none", x.undo(), false);
+        x.goal(0, 3);
+        x.image();
+        Kit.is("an image: all", x.count(10), 1);
+        x.back();
+        Kit.is("going back: none", x.count(10), 0);
+        Kit.is("no undo behind it", x.undo(), false);
+        LaceBonds y = new LaceBonds();
+        y.days(1);
+        Kit.is("no image", y.back(), false);
+        Kit.is("nothing happened", y.count(10), 1);
+        for (int i = 1; i <= 12; i++) {
+            Kit.reads(y, true, "", i);
+        }
+        y.days(1);
+        Kit.text(y, "");
+        Kit.refuses("a 13th", Kit.UNSUPPORTED, () -> y.land());
+        Kit.is("a refused text forgets none", y.count(10), 1);
+    }
+
+    private static void images() {
+        LaceBonds x = new LaceBonds();
+        x.image();
+        Kit.text(x, THREE);
+        x.land();
+        Kit.lawOf(x, "slow 1;fall 40");
+        String told = body(x);
+        Kit.is("back to the new land", x.back(), true);
+        Kit.is("no people", x.count(0), 0);
+        Kit.is("no texts", x.count(1), 0);
+        Kit.is("no law", x.count(2), -1);
+        Kit.is("mud", x.mud(3), 0);
+        Kit.text(x, THREE);
+        x.land();
+        Kit.lawOf(x, "slow 1;fall 40");
+        Kit.is("told again", body(x), told);
+        x.seed(5);
+        x.lend(2, 3, 9, 1, 50);
+        x.days(3);
+        x.image();
+        String kept = body(x);
+        x.days(30);
+        Kit.lawOf(x, "grow 9");
+        x.seed(6);
+        Kit.text(x, "person 1 pace 1 at 1");
+        x.land();
+        Kit.text(x, "left");
+        Kit.refuses("a wrong text", Kit.ARGUMENT, () -> x.law());
+        x.feed(0, 0, 0, 0, 0);
+        Kit.is("back", x.back(), true);
+        Kit.is("all as it was", body(x), kept);
+        Kit.is("but the tape", x.end(20), true);
+        Kit.is("and fault", x.fault(), 0);
+        Kit.is("the law as it was", x.walks(2, 0), 3);
+        x.days(9);
+        Kit.is("back again", x.back(), true);
+        Kit.is("all as it was again", body(x), kept);
+    }
+
+    /** Undoing leaves the TAPE, fault() and THE IMAGE, and takes SEED along. */
+    private static void between() {
+        LaceBonds x = Kit.land(THREE);
+        x.goal(0, 7);
+        x.seed(123);
+        x.feed(1, 2, 3, 4, 5);
+        x.image();
+        Kit.is("undo", x.undo(), true);
+        Kit.is("seed as ahead", x.seed(1), 1);
+        Kit.is("the tape stays", x.end(20), true);
+        Kit.is("the image stays", x.back(), true);
+        Kit.is("the image is of then", x.person(0, 3), 7);
+        Kit.is("with its seed", x.seed(1), 123);
+        x.goal(0, 8);
+        Kit.text(x, "??");
+        Kit.refuses("a wrong text", Kit.ARGUMENT, () -> x.land());
+        x.undo();
+        Kit.is("fault stays", x.fault(), 0);
+    }
+
+    /** The state without how many acts can be undone. */
+    private static String body(LaceBonds x) {
+        String all = Kit.all(x);
+        int acts = x.count(10);
+        int line = all.indexOf('\n');
+        String head = line < 0 ? all : all.substring(0, line);
+        String tail = line < 0 ? "" : all.substring(line);
+        return head.substring(0, head.length() - (acts + " ").length()) + tail;
+    }
+}

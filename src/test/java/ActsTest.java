@@ -111,8 +111,11 @@ public final class ActsTest {
         Kit.is("all else as it is", x.lace(2, 2) * 10000 + x.lace(2, 3) * 1000 + x.lace(2, 4) * 10 + x.lace(2, 5), 203503);
         Kit.is("not logged", x.count(9), 0);
         Kit.is("an act", x.count(10), 1);
-        Kit.is("give just the purse", x.give(4, 0), 1);
+        Kit.is("give the other", x.give(4, 0), 1);
         Kit.is("into the purse before", x.person(1, 0), 40);
+        x.lend(0, 5, 40, 0, 50);
+        Kit.is("give for just the purse", x.give(5, 1), 0);
+        Kit.is("nothing is left of it", x.person(1, 0), 0);
         Kit.leaves(x, "lace -1", Kit.INDEX, () -> x.give(-1, 0));
         Kit.leaves(x, "lace 8", Kit.INDEX, () -> x.give(8, 0));
         Kit.leaves(x, "person -1", Kit.INDEX, () -> x.give(2, -1));
@@ -122,7 +125,7 @@ public final class ActsTest {
         Kit.leaves(x, "surety", Kit.ARGUMENT, () -> x.give(2, 3));
         Kit.leaves(x, "owner, in its shoe", Kit.ARGUMENT, () -> x.give(3, 1));
         Kit.leaves(x, "in its shoe", Kit.STATE, () -> x.give(3, 2));
-        Kit.leaves(x, "the purse is less", Kit.STATE, () -> x.give(4, 3));
+        Kit.leaves(x, "the purse is less", Kit.STATE, () -> x.give(4, 1));
         x.days(2);
         Kit.leaves(x, "holder, lost", Kit.ARGUMENT, () -> x.give(6, 2));
         Kit.leaves(x, "lost", Kit.STATE, () -> x.give(6, 0));

@@ -146,6 +146,10 @@ public final class DaysTest {
                 Kit.is("row " + ago + " what " + what, x.log(ago, what), rows[ago][what]);
             }
         }
+        LaceBonds just = Kit.land("person 9 pace 5 at 0;person 0 pace 3 at 19;person 10 pace 1 at 0;pledge 0 to 1 for 10 knot 0 till 1 by 2");
+        just.days(2);
+        Kit.is("the surety's purse is just enough", just.lace(0, 0), 0);
+        Kit.is("nothing is left of it", just.person(2, 0), 0);
         LaceBonds late = Kit.land("person 10 pace 5 at 0;person 995 pace 3 at 19;pledge 0 to 1 for 10 knot 0 till 2;day 50");
         late.days(1);
         Kit.is("a term gone by", late.lace(0, 0), 0);

@@ -43,6 +43,13 @@ public final class DebtsTest {
         ring(sum, 1, 7);
         sum.days(10);
         ring(sum, 0, 0);
+        // two rings that share lace 0: the one of three laces, though that of two is less as bits
+        LaceBonds shared = Kit.land(FOUR, "pledge 0 to 1 for 3 knot 0 till 9;pledge 2 to 0 for 3 knot 0 till 9;pledge 3 to 2 for 3 knot 0 till 9;pledge 4 to 0 for 3 knot 0 till 9");
+        Kit.is("untie asked alone", shared.untie(false), 25);
+        ring(shared, 2, 25);
+        // two rings of three that share lace 3: the least as bits
+        LaceBonds alike = Kit.land(FOUR, "pledge 3 to 2 for 3 knot 0 till 9;pledge 4 to 0 for 3 knot 0 till 9;pledge 0 to 1 for 3 knot 0 till 9;pledge 5 to 3 for 3 knot 0 till 9;pledge 6 to 1 for 3 knot 0 till 9");
+        ring(alike, 2, 25);
     }
 
     /** All twelve laces in pairs across: each set of pairs that balances. */
@@ -65,6 +72,7 @@ public final class DebtsTest {
         leads(x, new int[] {7, 7, 7, 7, 15});
         x.days(6);
         Kit.is("lost", x.rail(), 64);
+        Kit.is("left laces lead, too", Kit.land(FOUR, "pledge 4 to 0 for 1 knot 0 till 9").leads(2), 1);
         leads(x, new int[] {0, 0, 1, 0, 8});
     }
 
@@ -84,6 +92,9 @@ public final class DebtsTest {
         x.days(6);
         Kit.is("lost ones", x.rail(), 74);
         call(x, 4, 0, 0);
+        LaceBonds six = Kit.land(FOUR, "person 7 pace 1 at 1;person 7 pace 1 at 1;pledge 11 to 0 for 7 knot 0 till 9;pledge 10 to 0 for 7 knot 0 till 9");
+        call(six, 0, 1024, 7);
+        Kit.is("six can lend", six.lends(5), 63);
     }
 
     private static void breaking() {
@@ -119,6 +130,9 @@ public final class DebtsTest {
         Kit.is("by 31", far.mercy(2), -1);
         Kit.is("lost", far.lace(0, 0), 2);
         Kit.is("lost: none", far.mercy(0), -1);
+        // Ahead nobody falls, so nobody pays fines, whatever the law says.
+        LaceBonds fines = Kit.lawOf(Kit.land("person 10 pace 1 at 0;person 0 pace 1 at 0;pledge 0 to 1 for 10 knot 0 till 3;goal 0 9"), "fall 99;fall 9");
+        Kit.is("no falls ahead", fines.mercy(0), 0);
         LaceBonds last = Kit.land("person 0 pace 1 at 0;person 9 pace 1 at 0;day 999");
         for (int i = 0; i < 149; i++) {
             last.days(60);
@@ -144,6 +158,10 @@ public final class DebtsTest {
         x.surety(4, -1);
         Kit.is("none told", x.hangs(1), 0);
         Kit.is("now that one", x.trust(), 3);
+        LaceBonds first = Kit.land(FOUR, "pledge 2 to 2 for 1 knot 0 till 9 by 0");
+        Kit.is("the first one, for 1", first.trust(), 0);
+        Kit.is("on the first", first.hangs(0), 4);
+        Kit.is("lace 0 hangs", Kit.land(FOUR, "pledge 0 to 1 for 1 knot 0 till 9 by 2").hangs(2), 1);
         x.days(10);
         Kit.is("nothing hangs", x.trust(), -1);
         Kit.is("nothing at all", x.hangs(3), 0);
@@ -166,6 +184,7 @@ public final class DebtsTest {
         Kit.is("without the paid one", x.needed(), 3);
         x.days(1);
         Kit.is("none pledged", x.needed(), 0);
+        Kit.is("a surety is enough", Kit.land(FOUR, "pledge 2 to 2 for 1 knot 0 till 9 by 0;pledge 6 to 2 for 1 knot 0 till 9 by 0").needed(), 1);
     }
 
     private static void refusals() {

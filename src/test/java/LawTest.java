@@ -144,6 +144,8 @@ public final class LawTest {
         Kit.wrongAt(x, false, "slow even", 5);
         Kit.wrongAt(x, false, "slower 1", 0);
         Kit.wrongAt(x, false, "tax", 0);
+        Kit.wrongAt(x, false, "flow 1", 0);
+        Kit.wrongAt(x, false, "sloe 1", 0);
         Kit.wrongAt(x, false, "slow 1 when even", 7);
         Kit.wrongAt(x, false, "slow 1 2", 7);
         Kit.wrongAt(x, false, "grow 5 if", 9);

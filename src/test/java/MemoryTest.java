@@ -138,6 +138,12 @@ public final class MemoryTest {
         Kit.is("but the tape", x.end(20), true);
         Kit.is("and fault", x.fault(), 0);
         Kit.is("the law as it was", x.walks(2, 0), 3);
+        Kit.lawOf(x, "slow 1 if who > 0;slow 2 if who < 1;fall 3 if who > 1");
+        x.image();
+        Kit.lawOf(x, "slow 1 if who + 1 + 1 + 1 > 9;slow 2 if who < 1 and who < 2;fall 3");
+        x.back();
+        Kit.is("each line of the law", x.walks(0, 0) * 100 + x.walks(1, 0) * 10 + x.walks(1, 1), 350);
+        kept = body(x);
         x.days(9);
         Kit.is("back again", x.back(), true);
         Kit.is("all as it was again", body(x), kept);

@@ -48,6 +48,9 @@ public final class RaceTest {
     private static void loosest() {
         LaceBonds x = Kit.land("person 5 pace 5 at 0;person 20 pace 7 at 0;pledge 0 to 1 for 30 knot 0 till 9;pledge 1 to 1 for 20 knot 9 till 9;pledge 3 to 0 for 50 knot 0 till 1");
         Kit.is("the lesser", x.loose(0), 20);
+        LaceBonds y = Kit.land("person 5 pace 5 at 0;person 20 pace 7 at 0;person 1 pace 1 at 1;pledge 1 to 1 for 30 knot 0 till 9;pledge 2 to 0 for 9 knot 0 till 9;pledge 4 to 0 for 2 knot 0 till 9");
+        Kit.is("the own right one", y.loose(0), 30);
+        Kit.is("the own left one", y.loose(1), 9);
         Kit.is("the only one, whatever the purse", x.loose(1), 50);
         x.days(2);
         Kit.is("by then the other", x.loose(0), 30);

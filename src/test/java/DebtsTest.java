@@ -50,6 +50,10 @@ public final class DebtsTest {
         // two rings of three that share lace 3: the least as bits
         LaceBonds alike = Kit.land(FOUR, "pledge 3 to 2 for 3 knot 0 till 9;pledge 4 to 0 for 3 knot 0 till 9;pledge 0 to 1 for 3 knot 0 till 9;pledge 5 to 3 for 3 knot 0 till 9;pledge 6 to 1 for 3 knot 0 till 9");
         ring(alike, 2, 25);
+        LaceBonds either = Kit.land(FOUR, "pledge 6 to 1 for 3 knot 0 till 9;pledge 3 to 3 for 3 knot 0 till 9;pledge 2 to 3 for 3 knot 0 till 9");
+        ring(either, 2, 68);
+        LaceBonds other = Kit.land(FOUR, "pledge 0 to 1 for 3 knot 0 till 9;pledge 2 to 0 for 3 knot 0 till 9;pledge 3 to 0 for 3 knot 0 till 9");
+        ring(other, 2, 5);
     }
 
     /** All twelve laces in pairs across: each set of pairs that balances. */

@@ -191,6 +191,10 @@ public final class LawTest {
         Kit.is("not of the holder", x.grows(2), 3);
         Kit.is("a text: nothing can be undone", x.count(10), 0);
         Kit.is("lines", x.count(2), 1);
+        for (int i = 0; i < 100; i++) {
+            Kit.lawOf(x, "slow 2 if who + who + who + who + who > 4 + 4 and who + who + who + who + who < 4 + 4 + 4");
+        }
+        is(x, "the hundredth law", new int[] {9, 9, 7, 5}, new int[] {0, 0, 0, 0});
     }
 
     private static void refusals() {

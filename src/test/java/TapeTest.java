@@ -4,6 +4,8 @@ public final class TapeTest {
         feeding();
         ending();
         order();
+        cut();
+        full();
         Kit.close("TapeTest");
     }
 
@@ -53,5 +55,46 @@ public final class TapeTest {
         x.feed(0x80202020, 0, 0, 0, 0);
         Kit.refuses("byte 128", Kit.ARGUMENT, () -> x.law());
         Kit.is("at byte 0", x.fault(), 0);
+    }
+
+    /** What was fed and cut off again is no part of the text, whatever it would mean. */
+    private static void cut() {
+        cutAt("day 12", 5, true, -1, 3, 1);
+        cutAt("day 12", 3, true, 3, 3, 0);
+        cutAt("day 1;day 2", 5, true, -1, 3, 1);
+        cutAt("day 1;fine 7", 6, true, 6, 3, 0);
+        cutAt("day 1 ;fine 7", 6, true, -1, 4, 5);
+        cutAt("fine 7", 3, true, 0, 4, 5);
+        cutAt("slow 1;slow 2", 6, false, -1, 2, 1);
+        cutAt("slow 1 if even", 7, false, -1, 2, 1);
+        cutAt("slow 1 if even and there", 14, false, -1, 2, 1);
+        cutAt("slow 1 if (even)", 15, false, 15, 2, -1);
+        cutAt("slow 1 if 1 < 2 + 3", 16, false, -1, 2, 1);
+        cutAt("slow 1 if 1 < 2 + 3", 12, false, 12, 2, -1);
+    }
+
+    private static void cutAt(String text, int size, boolean land, int fault, int what, int due) {
+        LaceBonds x = new LaceBonds();
+        Kit.text(x, text);
+        x.end(size);
+        Kit.answer(() -> land ? x.land() : x.law());
+        Kit.is("fault of " + text + " cut to " + size, x.fault(), fault);
+        Kit.is("what is told by " + text + " cut to " + size, x.count(what), due);
+    }
+
+    /** Texts of 400 bytes, whose last thing ends with the TAPE. */
+    private static void full() {
+        LaceBonds x = new LaceBonds();
+        Kit.reads(x, true, " ".repeat(400), 1);
+        Kit.reads(x, true, " ".repeat(395) + "day 7", 2);
+        Kit.is("day 7", x.count(3), 7);
+        Kit.wrongAt(x, true, " ".repeat(394) + "day 7;", 400);
+        Kit.wrongAt(x, true, " ".repeat(397) + "day", 400);
+        Kit.reads(x, false, "slow 1 if even" + " and even".repeat(42) + "        ", 1);
+        Kit.reads(x, false, "slow 1 if 1" + "+1".repeat(193) + "<1", 1);
+        Kit.wrongAt(x, false, "slow 1 if 1" + "+1".repeat(194) + "<", 400);
+        Kit.wrongAt(x, false, "slow 1 if 1" + "+1".repeat(194) + "+", 400);
+        Kit.wrongAt(x, false, " slow 1 if " + "(".repeat(389), 17);
+        Kit.wrongAt(x, false, "slow 1 if not(" + "x".repeat(386), 14);
     }
 }

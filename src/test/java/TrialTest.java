@@ -38,7 +38,23 @@ public final class TrialTest {
     }
 
     private static void spans() {
+        for (int by = 5; by < 100; by += 10) {
+            LaceBonds x = Kit.lawOf(Kit.land(THREE), "fall " + by);
+            x.days(1);
+            spansAsTrials(x);
+        }
         LaceBonds x = Kit.lawOf(Kit.land(THREE), "fall 50");
+        Kit.is("by 0", x.span(0, false), 0);
+        Kit.is("by 0, most", x.span(0, true), 0);
+        x.days(20);
+        Kit.lawOf(x, "fall 99;fall 1");
+        x.goal(0, 0);
+        x.goal(1, 19);
+        Kit.is("falls of those days alone", x.span(2, false), x.trial(2, false));
+        Kit.is("and not all", x.span(2, true), x.trial(2, false));
+    }
+
+    private static void spansAsTrials(LaceBonds x) {
         for (int n = 1; n <= 60; n += 7) {
             int least = Integer.MAX_VALUE;
             int most = -1;
@@ -53,14 +69,6 @@ public final class TrialTest {
             Kit.is("the most by " + n, x.span(n, true), most);
             Kit.is("nothing stays", Kit.all(x), before);
         }
-        Kit.is("by 0", x.span(0, false), 0);
-        Kit.is("by 0, most", x.span(0, true), 0);
-        x.days(20);
-        Kit.lawOf(x, "fall 99;fall 1");
-        x.goal(0, 0);
-        x.goal(1, 19);
-        Kit.is("falls of those days alone", x.span(2, false), x.trial(2, false));
-        Kit.is("and not all", x.span(2, true), x.trial(2, false));
     }
 
     private static void refusals() {

@@ -75,6 +75,15 @@ public final class WaysTest {
         carry(x, 4, new int[] {1, 2, 0}, 15, 0, 5);
         LaceBonds one = Kit.land("person 1 pace 9 at 9");
         carry(one, 1, new int[] {0}, 0);
+        Kit.tape(one, 9, 255);
+        one.end(1);
+        Kit.is("what is cut off does not count", one.carry(-1), 0);
+        one.image();
+        Kit.text(one, "person 1 pace 1 at 9;person 1 pace 2 at 9");
+        one.land();
+        carry(one, 6, new int[] {2, 1, 0}, 17, 10, 0);
+        one.back();
+        carry(one, 2, new int[] {0}, 19);
     }
 
     /** Of ways that cost the same: PERSON 0 the least that can be, then 1, and so on. */

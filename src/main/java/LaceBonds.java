@@ -450,7 +450,7 @@ public final class LaceBonds {
 
     public int span(int n, boolean most) throws IllegalArgumentException {
         needAhead(n);
-        int fewest = Integer.MAX_VALUE;
+        int fewest = MOST_AHEAD * MOST_PEOPLE;
         int highest = 0;
         for (int start = 1; start <= LAST_SEED_OF_SPAN; start++) {
             tried.copyFrom(now);
@@ -959,9 +959,10 @@ public final class LaceBonds {
                 law.addStep(Law.MUD);
             } else if (text.takesWord("tired")) {
                 law.addStep(Law.TIRED);
-            } else {
-                text.needWord("day");
+            } else if (text.takesWord("day")) {
                 law.addStep(Law.DAY);
+            } else {
+                text.refuse(text.at);
             }
         }
     }

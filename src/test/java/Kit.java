@@ -1,3 +1,8 @@
+import java.io.IOException;
+import java.io.UncheckedIOException;
+import java.nio.file.Files;
+import java.nio.file.Path;
+
 /** What all tests share: texts onto the TAPE, answers compared, exceptions named. */
 final class Kit {
     /** A call of the face whose answer, or whose exception, is looked at. */
@@ -13,15 +18,35 @@ final class Kit {
 
     private static int checks = 0;
     private static int wrong = 0;
+    private static String document = "";
+    private static String sentence = "";
 
     private Kit() {
+    }
+
+    /** The words of the document that the checks behind this call are for; they must stand there just so. */
+    static void sentence(String words) {
+        if (document.isEmpty()) {
+            document = documentOnOneLine();
+        }
+        sentence = "";
+        is("the document says \"" + words + "\"", document.contains(words), true);
+        sentence = "\"" + words + "\": ";
+    }
+
+    private static String documentOnOneLine() {
+        try {
+            return Files.readString(Path.of("../shared/DOC.md")).replaceAll("\\s+", " ");
+        } catch (IOException e) {
+            throw new UncheckedIOException(e);
+        }
     }
 
     static void is(String what, Object got, Object due) {
         checks++;
         if (!due.equals(got)) {
             wrong++;
-            System.out.println(what + ": got " + got + ", due is " + due);
+            System.out.println(sentence + what + ": got " + got + ", due is " + due);
         }
     }
 
@@ -88,6 +113,15 @@ final class Kit {
         is("fault of " + text, x.fault(), at);
         is("the tape behind " + text, x.end(1), false);
         is("state behind " + text, all(x), before);
+    }
+
+    /** How many bytes the TAPE has; it still has them all. */
+    static int sizeOfTape(LaceBonds x) {
+        int size = 400;
+        while (!x.end(size)) {
+            size--;
+        }
+        return size;
     }
 
     /** A call that must be refused, and that leaves all as it was. */

@@ -35,8 +35,8 @@ public final class LanguageTest {
         }
         m = Pattern.compile("\\b(Math|Integer|Long|Arrays)\\.(\\w+)").matcher(code);
         while (m.find()) {
-            Kit.is("library " + m.group(), List.of("Math.min", "Math.max", "Math.floorMod", "Integer.bitCount", "Integer.numberOfTrailingZeros",
-                    "Integer.MAX_VALUE").contains(m.group()), true);
+            Kit.is("library " + m.group(), List.of("Math.min", "Math.max", "Math.floorMod", "Integer.bitCount", "Integer.numberOfTrailingZeros")
+                    .contains(m.group()), true);
         }
     }
 

@@ -3,6 +3,7 @@ public final class EdgeAskTest {
     private static final String SIX = "person 0 pace 1 at 0;person 0 pace 1 at 0;person 0 pace 1 at 0;person 0 pace 1 at 0;person 0 pace 1 at 0;person 0 pace 1 at 0";
 
     public static void main(String[] args) {
+        atFirst();
         worth();
         gaitAndHeld();
         shares();
@@ -46,6 +47,30 @@ public final class EdgeAskTest {
 
     private static String pledge(int lace, int holder, int amount, int term) {
         return "pledge " + lace + " to " + holder + " for " + amount + " knot 0 till " + term;
+    }
+
+    private static void atFirst() {
+        Kit.sentence("a GOAL (a PLACE; the own one at first), TIRED 0 to 9 (0 at first). LACES: two of each PERSON, numbered 2 times its number (left) and that and 1 (right).");
+        for (int many = 1; many <= 6; many++) {
+            LaceBonds x = new LaceBonds();
+            for (int p = 0; p < many; p++) {
+                tell(x, "person " + (10 + p) + " pace " + (1 + p) + " at " + (12 + p));
+            }
+            for (int p = 0; p < many; p++) {
+                int[] due = {10 + p, 1 + p, 12 + p, 12 + p, 0, 0, 0, 0, 0, 10 + p, 0};
+                for (int what = 0; what <= 10; what++) {
+                    Kit.is("person " + p + " what " + what, x.person(p, what), due[what]);
+                }
+                for (int l = 2 * p; l <= 2 * p + 1; l++) {
+                    int[] free = {0, -1, 0, 0, 0, -1};
+                    for (int what = 0; what <= 5; what++) {
+                        Kit.is("lace " + l + " what " + what, x.lace(l, what), free[what]);
+                    }
+                }
+            }
+            Kit.refuses("no person behind the last", Kit.INDEX, () -> x.person(x.count(0), 0));
+            Kit.refuses("no lace behind the last", Kit.INDEX, () -> x.lace(2 * x.count(0), 0));
+        }
     }
 
     private static void worth() {
@@ -458,14 +483,19 @@ public final class EdgeAskTest {
     private static void led() {
         Kit.sentence("LED: how many rows of THE LOG are of a LACE; the DAY of the latest (none).");
         LaceBonds x = tell(purses(9, 9), "day 7");
-        Kit.is("none", x.led(3, false), 0);
-        Kit.is("no day", x.led(3, true), -1);
+        for (int l = 0; l < 4; l++) {
+            Kit.is("none", x.led(l, false), 0);
+            Kit.is("no day", x.led(l, true), -1);
+        }
         x.lend(0, 3, 1, 0, 999);
         x.days(3);
         x.pay(3);
         Kit.is("two", x.led(3, false), 2);
         Kit.is("the latest", x.led(3, true), 10);
-        Kit.is("none of another", x.led(2, false), 0);
+        for (int l = 0; l < 3; l++) {
+            Kit.is("none of another", x.led(l, false), 0);
+            Kit.is("no day of another", x.led(l, true), -1);
+        }
         x.undo();
         Kit.is("one", x.led(3, false), 1);
         Kit.is("the latest then", x.led(3, true), 7);

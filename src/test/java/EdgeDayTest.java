@@ -15,6 +15,7 @@ public final class EdgeDayTest {
         drawJustBelow();
         ahead();
         amountAtMost();
+        allGrow();
         terms();
         whoPays();
         holderAtMost();
@@ -247,6 +248,34 @@ public final class EdgeDayTest {
         Kit.is("at once", x.lace(0, 2), 999);
         x.days(1);
         Kit.is("lost for 999", x.log(0, 3), 999);
+    }
+
+    /** Each of the twelve LACES grows, by what its own PERSON is; what is in its shoe or LOST does not. */
+    private static void allGrow() {
+        Kit.sentence("(b) Each PLEDGED LACE, by numbers: AMOUNT is more by what it GROWS by");
+        LaceBonds x = Kit.land("person 0 pace 1 at 0;person 0 pace 1 at 0;person 0 pace 1 at 0;person 0 pace 1 at 0;person 0 pace 1 at 0;person 0 pace 1 at 0");
+        for (int l = 0; l < 12; l += 2) {
+            String behind = " knot " + l % 10 + " till 999;pledge " + (l + 1) + " to " + (l < 2 ? 5 : 0) + " for " + (101 + l) + " knot " + (l + 1) % 10;
+            Kit.text(x, "pledge " + l + " to " + (l < 2 ? 5 : 0) + " for " + (100 + l) + behind + " till 999");
+            x.land();
+        }
+        Kit.lawOf(x, "grow 20 if who > 4;grow 30 if who < 1");
+        x.days(1);
+        for (int l = 0; l < 12; l++) {
+            int grows = l % 10 + (l > 9 ? 20 : 0) + (l < 2 ? 30 : 0);
+            Kit.is("grows by, " + l, x.grows(l), grows);
+            Kit.is("grown, " + l, x.lace(l, 2), 100 + l + grows);
+        }
+        Kit.sentence("(2 to 4: 0, if it is not PLEDGED)");
+        LaceBonds y = Kit.lawOf(Kit.land(TWO_POOR + "pledge 1 to 1 for 9 knot 9 till 1"), "grow 99");
+        y.days(9);
+        Kit.is("lost", y.rail(), 2);
+        for (int l = 0; l < 4; l++) {
+            for (int what = 2; what <= 4; what++) {
+                Kit.is("lace " + l + " what " + what, y.lace(l, what), 0);
+            }
+            Kit.is("grows by, " + l, y.grows(l), 0);
+        }
     }
 
     /** A TERM is due on its DAY, and on each later one. */

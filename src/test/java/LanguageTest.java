@@ -1,3 +1,5 @@
+import java.lang.reflect.Field;
+import java.lang.reflect.Modifier;
 import java.nio.file.Files;
 import java.nio.file.Path;
 import java.util.List;
@@ -19,7 +21,23 @@ public final class LanguageTest {
         exceptions(bare);
         methods(code);
         Kit.is("twelve classes at most", count(bare, "\\b(class|interface|enum|record) \\w+") <= 12, true);
+        fields(LaceBonds.class);
+        for (Class<?> inner : LaceBonds.class.getDeclaredClasses()) {
+            fields(inner);
+        }
         Kit.close("LanguageTest");
+    }
+
+    /** Some twenty fields beside the constants at most, and static ones are constants. */
+    private static void fields(Class<?> c) {
+        int many = 0;
+        for (Field f : c.getDeclaredFields()) {
+            boolean constant = Modifier.isStatic(f.getModifiers());
+            many += constant ? 0 : 1;
+            Kit.is(c.getName() + "." + f.getName() + " is a constant", !constant || Modifier.isFinal(f.getModifiers())
+                    && List.of("int", "long", "boolean", "char", "String").contains(f.getType().getSimpleName()), true);
+        }
+        Kit.is(c.getName() + " has few fields", many <= 20, true);
     }
 
     private static void absent(String code, List<String> all) {

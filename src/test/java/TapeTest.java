@@ -6,6 +6,10 @@ public final class TapeTest {
         order();
         cut();
         full();
+        eachSize();
+        eachPlace();
+        eachEnd();
+        usedUp();
         Kit.close("TapeTest");
     }
 
@@ -96,5 +100,78 @@ public final class TapeTest {
         Kit.wrongAt(x, false, "slow 1 if 1" + "+1".repeat(194) + "+", 400);
         Kit.wrongAt(x, false, " slow 1 if " + "(".repeat(389), 17);
         Kit.wrongAt(x, false, "slow 1 if not(" + "x".repeat(386), 14);
+    }
+
+    /** With 380 bytes twenty more fit, with 381 none do, and what there was is as it was. */
+    private static void eachSize() {
+        Kit.sentence("how many it has; NONE, and none come, if it would have more than 400.");
+        for (int size = 0; size <= 400; size++) {
+            LaceBonds x = new LaceBonds();
+            String text = " ".repeat(Math.max(0, size - 6)) + (size < 6 ? " ".repeat(size) : "fine 7");
+            Kit.text(x, text);
+            boolean fits = size + 20 <= 400;
+            Kit.is("feed behind " + size, x.feed(0x3b666967, 0x68742020, 0, -1, 0x20202020), fits ? size + 20 : -1);
+            if (fits) {
+                Kit.refuses("what came is read", Kit.ARGUMENT, () -> x.land());
+                Kit.is("behind what was there", x.fault(), size < 6 ? size : size + 1);
+            } else {
+                Kit.is("none came", Kit.sizeOfTape(x), size);
+                Kit.is("what was there is read", x.land(), 1);
+                Kit.is("as it was", x.count(4), 7);
+            }
+        }
+    }
+
+    /** A byte that can stand nowhere, at each of the twenty places. */
+    private static void eachPlace() {
+        Kit.sentence("Twenty bytes come behind the TAPE, of each number the highest first");
+        for (int at = 0; at < 20; at++) {
+            for (int wrong : new int[] {0, 1, 31, 33, 64, 123, 127, 128, 255}) {
+                int[] numbers = {0x20202020, 0x20202020, 0x20202020, 0x20202020, 0x20202020};
+                int shift = 24 - at % 4 * 8;
+                numbers[at / 4] = numbers[at / 4] & ~(255 << shift) | wrong << shift;
+                LaceBonds x = new LaceBonds();
+                Kit.is("20 blanks", x.feed(0x20202020, 0x20202020, 0x20202020, 0x20202020, 0x20202020), 20);
+                Kit.is("and 20 more", x.feed(numbers[0], numbers[1], numbers[2], numbers[3], numbers[4]), 40);
+                Kit.refuses("byte " + wrong, Kit.ARGUMENT, () -> x.land());
+                Kit.is("byte " + wrong + " at " + at, x.fault(), 20 + at);
+            }
+        }
+    }
+
+    private static void eachEnd() {
+        Kit.sentence("The TAPE has its first n bytes alone: true; false, and nothing happens, if it has fewer, or n is below 0.");
+        for (int size : new int[] {0, 1, 19, 20, 21, 399, 400}) {
+            for (int n : new int[] {-1, 0, 1, size - 1, size, size + 1, 401, Integer.MIN_VALUE, Integer.MAX_VALUE}) {
+                LaceBonds x = new LaceBonds();
+                Kit.tape(x, new int[size]);
+                boolean due = n >= 0 && n <= size;
+                Kit.is("end " + n + " of " + size, x.end(n), due);
+                Kit.is("the tape behind it", Kit.sizeOfTape(x), due ? n : size);
+            }
+        }
+    }
+
+    /** By each call that reads it, also by one that takes it as it is. */
+    private static void usedUp() {
+        Kit.sentence("Uses the TAPE up");
+        LaceBonds x = Kit.land("person 1 pace 1 at 1");
+        Kit.is("by a land", Kit.sizeOfTape(x), 0);
+        Kit.reads(x, false, "slow 1", 1);
+        Kit.is("by a law", Kit.sizeOfTape(x), 0);
+        Kit.tape(x, 1);
+        Kit.is("carry", x.carry(0), 0);
+        Kit.is("by carry", Kit.sizeOfTape(x), 0);
+        Kit.tape(x, 0, 0, 1);
+        Kit.is("wear", x.wear(false), 1);
+        Kit.is("by wear", Kit.sizeOfTape(x), 0);
+        Kit.tape(x, 0, 0, 1);
+        Kit.is("look", x.look(), -1);
+        Kit.is("by look", Kit.sizeOfTape(x), 0);
+        Kit.is("an empty text behind it", x.land(), 2);
+        Kit.is("an empty law", x.law(), 0);
+        Kit.is("no rows", x.wear(false), 2);
+        Kit.is("no rows to look", x.look(), 0);
+        Kit.refuses("no places for one", Kit.ARGUMENT, () -> x.carry(-1));
     }
 }

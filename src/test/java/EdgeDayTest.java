@@ -21,6 +21,7 @@ public final class EdgeDayTest {
         holderAtMost();
         ownersAtMost();
         lastDay();
+        aheadOfLastDay();
         actsThatChangeNothing();
         sixtyRows();
         daysMakeRows();
@@ -375,6 +376,21 @@ public final class EdgeDayTest {
         Kit.is("a row of the last day", x.log(0, 0) + x.led(2, true), 19998);
         Kit.lawOf(x, "slow 1 if day > 998 + 999 + 999 + 999 + 999 + 999 + 999 + 999 + 999 + 999 + 9");
         Kit.is("day is 9999 in the law", x.walks(0, 0), 0);
+    }
+
+    /** DAY 9999 comes as often as it is asked for, ahead as well. */
+    private static void aheadOfLastDay() {
+        Kit.sentence("DAY is 1 more (9999 at most).");
+        LaceBonds x = onDay(9999, "person 10 pace 1 at 0;person 20 pace 1 at 0");
+        x.lend(1, 0, 5, 0, 9999);
+        Kit.is("paid ahead", x.breaks(60), 0);
+        Kit.is("by its owner", x.ahead(0, 60, true), 10);
+        Kit.is("to its holder", x.ahead(1, 60, true), 20);
+        x.lend(0, 3, 15, 9, 9999);
+        Kit.is("nothing is left for lace 0", x.breaks(1), 1);
+        Kit.is("no term is later than that", x.mercy(0), -1);
+        Kit.is("lace 3 is paid", x.mercy(3), 0);
+        Kit.is("tried", x.trial(60, true), 1);
     }
 
     private static void actsThatChangeNothing() {

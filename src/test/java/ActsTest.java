@@ -6,8 +6,11 @@ public final class ActsTest {
         lending();
         lendingRefused();
         paying();
+        payingRefused();
         sureties();
+        suretiesRefused();
         giving();
+        givingRefused();
         goals();
         resting();
         Kit.close("ActsTest");
@@ -32,31 +35,32 @@ public final class ActsTest {
     }
 
     private static void lendingRefused() {
-        LaceBonds x = Kit.land(FOUR + ";pledge 3 to 0 for 5 knot 0 till 1;pledge 7 to 0 for 5 knot 0 till 1");
-        Kit.leaves(x, "holder -1", Kit.INDEX, () -> x.lend(-1, 0, 0, 0, 0));
-        Kit.leaves(x, "holder 4", Kit.INDEX, () -> x.lend(4, 0, 5, 0, 5));
-        Kit.leaves(x, "lace -1", Kit.INDEX, () -> x.lend(0, -1, 5, 0, 5));
-        Kit.leaves(x, "lace 8", Kit.INDEX, () -> x.lend(0, 8, 0, 10, 0));
-        Kit.leaves(x, "its owner", Kit.ARGUMENT, () -> x.lend(0, 1, 5, 0, 5));
-        Kit.leaves(x, "its owner, and pledged", Kit.ARGUMENT, () -> x.lend(1, 3, 5, 0, 5));
-        Kit.leaves(x, "amount 0", Kit.ARGUMENT, () -> x.lend(0, 2, 0, 0, 5));
-        Kit.leaves(x, "amount 1000", Kit.ARGUMENT, () -> x.lend(0, 2, 1000, 0, 5));
-        Kit.leaves(x, "knot -1", Kit.ARGUMENT, () -> x.lend(0, 2, 5, -1, 5));
-        Kit.leaves(x, "knot 10", Kit.ARGUMENT, () -> x.lend(0, 2, 5, 10, 5));
-        Kit.leaves(x, "term 0", Kit.ARGUMENT, () -> x.lend(0, 2, 5, 0, 0));
-        Kit.leaves(x, "term 10000", Kit.ARGUMENT, () -> x.lend(0, 2, 5, 0, 10000));
-        Kit.leaves(x, "pledged, and no term", Kit.ARGUMENT, () -> x.lend(0, 3, 5, 0, 0));
-        Kit.leaves(x, "pledged", Kit.STATE, () -> x.lend(0, 3, 5, 0, 5));
-        Kit.leaves(x, "the purse is less", Kit.STATE, () -> x.lend(0, 2, 101, 0, 5));
-        Kit.leaves(x, "none in the purse", Kit.STATE, () -> x.lend(3, 2, 1, 0, 5));
-        x.days(2);
-        Kit.is("lost", x.lace(7, 0), 2);
-        Kit.leaves(x, "lost", Kit.STATE, () -> x.lend(2, 7, 5, 0, 5));
-        Kit.is("just the purse", x.lend(0, 2, 105, 0, 5), 0);
+        Kit.Maker world = Kit.of(FOUR + ";pledge 3 to 0 for 5 knot 0 till 1;pledge 7 to 0 for 5 knot 0 till 1");
+        Kit.leaves(world, "holder -1", Kit.INDEX, x -> x.lend(-1, 0, 0, 0, 0));
+        Kit.leaves(world, "holder 4", Kit.INDEX, x -> x.lend(4, 0, 5, 0, 5));
+        Kit.leaves(world, "lace -1", Kit.INDEX, x -> x.lend(0, -1, 5, 0, 5));
+        Kit.leaves(world, "lace 8", Kit.INDEX, x -> x.lend(0, 8, 0, 10, 0));
+        Kit.leaves(world, "its owner", Kit.ARGUMENT, x -> x.lend(0, 1, 5, 0, 5));
+        Kit.leaves(world, "its owner, and pledged", Kit.ARGUMENT, x -> x.lend(1, 3, 5, 0, 5));
+        Kit.leaves(world, "amount 0", Kit.ARGUMENT, x -> x.lend(0, 2, 0, 0, 5));
+        Kit.leaves(world, "amount 1000", Kit.ARGUMENT, x -> x.lend(0, 2, 1000, 0, 5));
+        Kit.leaves(world, "knot -1", Kit.ARGUMENT, x -> x.lend(0, 2, 5, -1, 5));
+        Kit.leaves(world, "knot 10", Kit.ARGUMENT, x -> x.lend(0, 2, 5, 10, 5));
+        Kit.leaves(world, "term 0", Kit.ARGUMENT, x -> x.lend(0, 2, 5, 0, 0));
+        Kit.leaves(world, "term 10000", Kit.ARGUMENT, x -> x.lend(0, 2, 5, 0, 10000));
+        Kit.leaves(world, "pledged, and no term", Kit.ARGUMENT, x -> x.lend(0, 3, 5, 0, 0));
+        Kit.leaves(world, "pledged", Kit.STATE, x -> x.lend(0, 3, 5, 0, 5));
+        Kit.leaves(world, "the purse is less", Kit.STATE, x -> x.lend(0, 2, 101, 0, 5));
+        Kit.leaves(world, "none in the purse", Kit.STATE, x -> x.lend(3, 2, 1, 0, 5));
+        Kit.Maker later = world.then(x -> x.days(2));
+        Kit.leaves(later, "lost", Kit.STATE, x -> x.lend(2, 7, 5, 0, 5));
+        LaceBonds one = later.make();
+        Kit.is("lost it is", one.lace(7, 0), 2);
+        Kit.is("just the purse", one.lend(0, 2, 105, 0, 5), 0);
     }
 
     private static void paying() {
-        LaceBonds x = Kit.land(FOUR + ";pledge 2 to 0 for 20 knot 3 till 50 by 2;pledge 1 to 2 for 50 knot 0 till 50;pledge 6 to 2 for 1 knot 0 till 1;day 3");
+        LaceBonds x = payers().make();
         Kit.is("pay all one has", x.pay(2), 20);
         Kit.is("the purse", x.person(1, 0), 0);
         Kit.is("the holder's", x.person(0, 0), 120);
@@ -68,12 +72,19 @@ public final class ActsTest {
         Kit.is("999 at most", x.person(2, 0), 999);
         Kit.is("of the own purse", x.person(0, 0), 70);
         Kit.is("acts", x.count(10), 2);
-        Kit.leaves(x, "lace -1", Kit.INDEX, () -> x.pay(-1));
-        Kit.leaves(x, "lace 8", Kit.INDEX, () -> x.pay(8));
-        Kit.leaves(x, "in its shoe", Kit.STATE, () -> x.pay(2));
-        Kit.leaves(x, "the purse is less", Kit.STATE, () -> x.pay(6));
-        x.days(1);
-        Kit.leaves(x, "lost", Kit.STATE, () -> x.pay(6));
+    }
+
+    private static void payingRefused() {
+        Kit.Maker paid = payers().then(x -> x.pay(2));
+        Kit.leaves(paid, "lace -1", Kit.INDEX, x -> x.pay(-1));
+        Kit.leaves(paid, "lace 8", Kit.INDEX, x -> x.pay(8));
+        Kit.leaves(paid, "in its shoe", Kit.STATE, x -> x.pay(2));
+        Kit.leaves(paid, "the purse is less", Kit.STATE, x -> x.pay(6));
+        Kit.leaves(paid.then(x -> x.days(1)), "lost", Kit.STATE, x -> x.pay(6));
+    }
+
+    private static Kit.Maker payers() {
+        return Kit.of(FOUR + ";pledge 2 to 0 for 20 knot 3 till 50 by 2;pledge 1 to 2 for 50 knot 0 till 50;pledge 6 to 2 for 1 knot 0 till 1;day 3");
     }
 
     private static void sureties() {
@@ -86,24 +97,28 @@ public final class ActsTest {
         Kit.is("none again", x.surety(2, -1), -1);
         Kit.is("all are acts", x.count(10), 4);
         Kit.is("no row", x.count(9), 0);
-        Kit.leaves(x, "lace -1", Kit.INDEX, () -> x.surety(-1, 0));
-        Kit.leaves(x, "lace 8", Kit.INDEX, () -> x.surety(8, -1));
-        Kit.leaves(x, "person -2", Kit.INDEX, () -> x.surety(2, -2));
-        Kit.leaves(x, "person 4", Kit.INDEX, () -> x.surety(2, 4));
-        Kit.leaves(x, "person 4, in its shoe", Kit.INDEX, () -> x.surety(3, 4));
-        Kit.leaves(x, "owner", Kit.ARGUMENT, () -> x.surety(2, 1));
-        Kit.leaves(x, "holder", Kit.ARGUMENT, () -> x.surety(2, 0));
-        Kit.leaves(x, "owner, in its shoe", Kit.ARGUMENT, () -> x.surety(3, 1));
-        Kit.leaves(x, "in its shoe", Kit.STATE, () -> x.surety(3, 0));
-        Kit.leaves(x, "none, in its shoe", Kit.STATE, () -> x.surety(3, -1));
-        x.days(2);
-        Kit.leaves(x, "holder, lost", Kit.ARGUMENT, () -> x.surety(6, 2));
-        Kit.leaves(x, "lost", Kit.STATE, () -> x.surety(6, 0));
-        Kit.leaves(x, "none, lost", Kit.STATE, () -> x.surety(6, -1));
+    }
+
+    private static void suretiesRefused() {
+        Kit.Maker world = Kit.of(FOUR + ";pledge 2 to 0 for 20 knot 3 till 50;pledge 6 to 2 for 1 knot 0 till 1");
+        Kit.leaves(world, "lace -1", Kit.INDEX, x -> x.surety(-1, 0));
+        Kit.leaves(world, "lace 8", Kit.INDEX, x -> x.surety(8, -1));
+        Kit.leaves(world, "person -2", Kit.INDEX, x -> x.surety(2, -2));
+        Kit.leaves(world, "person 4", Kit.INDEX, x -> x.surety(2, 4));
+        Kit.leaves(world, "person 4, in its shoe", Kit.INDEX, x -> x.surety(3, 4));
+        Kit.leaves(world, "owner", Kit.ARGUMENT, x -> x.surety(2, 1));
+        Kit.leaves(world, "holder", Kit.ARGUMENT, x -> x.surety(2, 0));
+        Kit.leaves(world, "owner, in its shoe", Kit.ARGUMENT, x -> x.surety(3, 1));
+        Kit.leaves(world, "in its shoe", Kit.STATE, x -> x.surety(3, 0));
+        Kit.leaves(world, "none, in its shoe", Kit.STATE, x -> x.surety(3, -1));
+        Kit.Maker later = world.then(x -> x.days(2));
+        Kit.leaves(later, "holder, lost", Kit.ARGUMENT, x -> x.surety(6, 2));
+        Kit.leaves(later, "lost", Kit.STATE, x -> x.surety(6, 0));
+        Kit.leaves(later, "none, lost", Kit.STATE, x -> x.surety(6, -1));
     }
 
     private static void giving() {
-        LaceBonds x = Kit.land(FOUR + ";pledge 2 to 2 for 20 knot 3 till 50 by 3;pledge 4 to 1 for 20 knot 1 till 50;pledge 6 to 2 for 1 knot 0 till 1");
+        LaceBonds x = givers().make();
         Kit.is("give", x.give(2, 0), 2);
         Kit.is("the new holder", x.lace(2, 1), 0);
         Kit.is("it has paid", x.person(0, 0), 80);
@@ -116,47 +131,55 @@ public final class ActsTest {
         x.lend(0, 5, 40, 0, 50);
         Kit.is("give for just the purse", x.give(5, 1), 0);
         Kit.is("nothing is left of it", x.person(1, 0), 0);
-        Kit.leaves(x, "lace -1", Kit.INDEX, () -> x.give(-1, 0));
-        Kit.leaves(x, "lace 8", Kit.INDEX, () -> x.give(8, 0));
-        Kit.leaves(x, "person -1", Kit.INDEX, () -> x.give(2, -1));
-        Kit.leaves(x, "person 4", Kit.INDEX, () -> x.give(2, 4));
-        Kit.leaves(x, "owner", Kit.ARGUMENT, () -> x.give(2, 1));
-        Kit.leaves(x, "holder", Kit.ARGUMENT, () -> x.give(2, 0));
-        Kit.leaves(x, "surety", Kit.ARGUMENT, () -> x.give(2, 3));
-        Kit.leaves(x, "owner, in its shoe", Kit.ARGUMENT, () -> x.give(3, 1));
-        Kit.leaves(x, "in its shoe", Kit.STATE, () -> x.give(3, 2));
-        Kit.leaves(x, "the purse is less", Kit.STATE, () -> x.give(4, 1));
-        x.days(2);
-        Kit.leaves(x, "holder, lost", Kit.ARGUMENT, () -> x.give(6, 2));
-        Kit.leaves(x, "lost", Kit.STATE, () -> x.give(6, 0));
+    }
+
+    private static void givingRefused() {
+        Kit.Maker given = givers().then(x -> x.give(2, 0)).then(x -> x.give(4, 0)).then(x -> x.lend(0, 5, 40, 0, 50)).then(x -> x.give(5, 1));
+        Kit.leaves(given, "lace -1", Kit.INDEX, x -> x.give(-1, 0));
+        Kit.leaves(given, "lace 8", Kit.INDEX, x -> x.give(8, 0));
+        Kit.leaves(given, "person -1", Kit.INDEX, x -> x.give(2, -1));
+        Kit.leaves(given, "person 4", Kit.INDEX, x -> x.give(2, 4));
+        Kit.leaves(given, "owner", Kit.ARGUMENT, x -> x.give(2, 1));
+        Kit.leaves(given, "holder", Kit.ARGUMENT, x -> x.give(2, 0));
+        Kit.leaves(given, "surety", Kit.ARGUMENT, x -> x.give(2, 3));
+        Kit.leaves(given, "owner, in its shoe", Kit.ARGUMENT, x -> x.give(3, 1));
+        Kit.leaves(given, "in its shoe", Kit.STATE, x -> x.give(3, 2));
+        Kit.leaves(given, "the purse is less", Kit.STATE, x -> x.give(4, 1));
+        Kit.Maker later = given.then(x -> x.days(2));
+        Kit.leaves(later, "holder, lost", Kit.ARGUMENT, x -> x.give(6, 2));
+        Kit.leaves(later, "lost", Kit.STATE, x -> x.give(6, 0));
+    }
+
+    private static Kit.Maker givers() {
+        return Kit.of(FOUR + ";pledge 2 to 2 for 20 knot 3 till 50 by 3;pledge 4 to 1 for 20 knot 1 till 50;pledge 6 to 2 for 1 knot 0 till 1");
     }
 
     private static void goals() {
-        LaceBonds x = Kit.land(FOUR);
+        Kit.Maker world = Kit.of(FOUR);
+        Kit.leaves(world, "person -1", Kit.INDEX, x -> x.goal(-1, 0));
+        Kit.leaves(world, "person 4", Kit.INDEX, x -> x.goal(4, 0));
+        Kit.leaves(world, "place -1", Kit.INDEX, x -> x.goal(0, -1));
+        Kit.leaves(world, "place 20", Kit.INDEX, x -> x.goal(0, 20));
+        LaceBonds x = world.make();
         Kit.is("goal was its place", x.goal(1, 19), 10);
         Kit.is("goal was", x.goal(1, 0), 19);
         Kit.is("goal the same", x.goal(1, 0), 0);
         Kit.is("goal is", x.person(1, 3), 0);
         Kit.is("acts", x.count(10), 3);
-        Kit.leaves(x, "person -1", Kit.INDEX, () -> x.goal(-1, 0));
-        Kit.leaves(x, "person 4", Kit.INDEX, () -> x.goal(4, 0));
-        Kit.leaves(x, "place -1", Kit.INDEX, () -> x.goal(0, -1));
-        Kit.leaves(x, "place 20", Kit.INDEX, () -> x.goal(0, 20));
     }
 
     private static void resting() {
-        LaceBonds x = Kit.lawOf(Kit.land(FOUR), "fall 99;fall 1");
-        x.goal(0, 9);
-        x.goal(1, 9);
-        Kit.is("falls", x.days(4), 8);
+        Kit.Maker world = Kit.of(FOUR + ";goal 0 9;goal 1 9").law("fall 99;fall 1").then(x -> x.days(4));
+        Kit.leaves(world, "person -1", Kit.INDEX, x -> x.rest(-1));
+        Kit.leaves(world, "person 4", Kit.INDEX, x -> x.rest(4));
+        LaceBonds x = world.make();
+        Kit.is("falls", x.count(8), 8);
         Kit.is("tired", x.person(0, 4), 4);
         Kit.is("rest", x.rest(0), 4);
         Kit.is("rested", x.person(0, 4), 0);
         Kit.is("the other not", x.person(1, 4), 4);
         Kit.is("rest again", x.rest(0), 0);
-        Kit.is("acts", x.count(10), 5);
-        Kit.leaves(x, "person -1", Kit.INDEX, () -> x.rest(-1));
-        Kit.leaves(x, "person 4", Kit.INDEX, () -> x.rest(4));
+        Kit.is("acts", x.count(10), 3);
     }
 
     private static void row(LaceBonds x, int... due) {

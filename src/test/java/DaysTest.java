@@ -195,10 +195,10 @@ public final class DaysTest {
     }
 
     private static void refusals() {
-        LaceBonds x = Kit.land("person 10 pace 5 at 0;goal 0 5");
-        Kit.leaves(x, "days 0", Kit.ARGUMENT, () -> x.days(0));
-        Kit.leaves(x, "days 61", Kit.ARGUMENT, () -> x.days(61));
-        Kit.leaves(x, "days -1", Kit.ARGUMENT, () -> x.days(-1));
-        Kit.is("days 60", x.days(60), 0);
+        Kit.Maker world = Kit.of("person 10 pace 5 at 0;goal 0 5");
+        Kit.leaves(world, "days 0", Kit.ARGUMENT, x -> x.days(0));
+        Kit.leaves(world, "days 61", Kit.ARGUMENT, x -> x.days(61));
+        Kit.leaves(world, "days -1", Kit.ARGUMENT, x -> x.days(-1));
+        Kit.is("days 60", world.make().days(60), 0);
     }
 }

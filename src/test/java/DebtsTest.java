@@ -192,20 +192,20 @@ public final class DebtsTest {
     }
 
     private static void refusals() {
-        LaceBonds x = Kit.land(FOUR);
+        Kit.Maker world = Kit.of(FOUR);
         for (int p : new int[] {-1, 4, Integer.MIN_VALUE, Integer.MAX_VALUE}) {
-            Kit.leaves(x, "owes " + p, Kit.INDEX, () -> x.owes(p, 0));
-            Kit.leaves(x, "owes to " + p, Kit.INDEX, () -> x.owes(0, p));
-            Kit.leaves(x, "owes both " + p, Kit.INDEX, () -> x.owes(p, p));
-            Kit.leaves(x, "leads " + p, Kit.INDEX, () -> x.leads(p));
-            Kit.leaves(x, "call " + p, Kit.INDEX, () -> x.call(p, true));
-            Kit.leaves(x, "hangs " + p, Kit.INDEX, () -> x.hangs(p));
+            Kit.leaves(world, "owes " + p, Kit.INDEX, x -> x.owes(p, 0));
+            Kit.leaves(world, "owes to " + p, Kit.INDEX, x -> x.owes(0, p));
+            Kit.leaves(world, "owes both " + p, Kit.INDEX, x -> x.owes(p, p));
+            Kit.leaves(world, "leads " + p, Kit.INDEX, x -> x.leads(p));
+            Kit.leaves(world, "call " + p, Kit.INDEX, x -> x.call(p, true));
+            Kit.leaves(world, "hangs " + p, Kit.INDEX, x -> x.hangs(p));
         }
-        Kit.leaves(x, "owes itself", Kit.ARGUMENT, () -> x.owes(3, 3));
-        Kit.leaves(x, "breaks -1", Kit.ARGUMENT, () -> x.breaks(-1));
-        Kit.leaves(x, "breaks 61", Kit.ARGUMENT, () -> x.breaks(61));
-        Kit.leaves(x, "mercy -1", Kit.INDEX, () -> x.mercy(-1));
-        Kit.leaves(x, "mercy 8", Kit.INDEX, () -> x.mercy(8));
+        Kit.leaves(world, "owes itself", Kit.ARGUMENT, x -> x.owes(3, 3));
+        Kit.leaves(world, "breaks -1", Kit.ARGUMENT, x -> x.breaks(-1));
+        Kit.leaves(world, "breaks 61", Kit.ARGUMENT, x -> x.breaks(61));
+        Kit.leaves(world, "mercy -1", Kit.INDEX, x -> x.mercy(-1));
+        Kit.leaves(world, "mercy 8", Kit.INDEX, x -> x.mercy(8));
     }
 
     private static void tell(LaceBonds x, String text) {

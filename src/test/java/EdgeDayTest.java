@@ -416,11 +416,7 @@ public final class EdgeDayTest {
         Kit.sentence("THE LOG: the latest 60 LACES that went");
         LaceBonds x = Kit.land("person 999 pace 1 at 0;person 0 pace 1 at 0");
         for (int n = 1; n <= 65; n++) {
-            if (n % 2 == 1) {
-                x.lend(0, 2, n, 0, 999);
-            } else {
-                x.pay(2);
-            }
+            went(x, n);
             Kit.is("rows", x.count(9), Math.min(n, 60));
             Kit.is("led", x.led(2, false), Math.min(n, 60));
             Kit.is("the latest", x.log(0, 3), n % 2 == 1 ? n : n - 1);
@@ -428,14 +424,27 @@ public final class EdgeDayTest {
             Kit.is("the first of them", x.log(Math.min(n, 60) - 1, 3), first % 2 == 1 ? first : first - 1);
             Kit.is("none behind it", x.log(Math.min(n, 60), 3), -1);
         }
+        LaceBonds y = Kit.land("person 999 pace 1 at 0;person 0 pace 1 at 0");
+        for (int n = 1; n <= 65; n++) {
+            went(y, n);
+        }
         for (int ago = 0; ago < 60; ago++) {
             int n = 65 - ago;
-            Kit.is("row " + ago, x.log(ago, 2) * 100 + x.log(ago, 3), n % 2 == 1 ? n : 100 + n - 1);
+            Kit.is("row " + ago, y.log(ago, 2) * 100 + y.log(ago, 3), n % 2 == 1 ? n : 100 + n - 1);
         }
-        Kit.is("no 61st", x.log(60, 0), -1);
-        x.undo();
-        Kit.is("60 rows as ahead of it", x.count(9), 60);
-        Kit.is("the first as ahead of it", x.log(59, 3), 5);
+        Kit.is("no 61st", y.log(60, 0), -1);
+        y.undo();
+        Kit.is("60 rows as ahead of it", y.count(9), 60);
+        Kit.is("the first as ahead of it", y.log(59, 3), 5);
+    }
+
+    /** LACE 2 goes for the n-th time: on and off by turns. */
+    private static void went(LaceBonds x, int n) {
+        if (n % 2 == 1) {
+            x.lend(0, 2, n, 0, 999);
+        } else {
+            x.pay(2);
+        }
     }
 
     /** A DAY on which several LACES go makes their rows by their numbers, also where the 61st comes in between. */
@@ -513,8 +522,10 @@ public final class EdgeDayTest {
         Kit.is("nothing to undo", x.undo(), false);
         Kit.is("as kept", x.person(0, 3), 9);
         x.goal(0, 11);
-        Kit.wrongAt(x, true, "zz", 0);
-        Kit.wrongAt(x, false, "zz", 0);
+        Kit.text(x, "zz");
+        Kit.refuses("a wrong land", Kit.ARGUMENT, () -> x.land());
+        Kit.text(x, "zz");
+        Kit.refuses("a wrong law", Kit.ARGUMENT, () -> x.law());
         Kit.is("a wrong text forgets none", x.undo(), true);
         Kit.is("as ahead", x.person(0, 3), 9);
     }

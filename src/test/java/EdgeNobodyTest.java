@@ -41,9 +41,10 @@ public final class EdgeNobodyTest {
         }
     }
 
-    private static void index(String what, int n, Twins.Deed deed) {
+    private static void index(String what, int n, Kit.Deed deed) {
+        Kit.leaves(LaceBonds::new, what + " " + n, Kit.INDEX, deed);
         LaceBonds x = new LaceBonds();
-        Kit.leaves(x, what + " " + n, Kit.INDEX, () -> deed.on(x));
+        Kit.refuses(what + " " + n, Kit.INDEX, () -> deed.on(x));
         Kit.is("no act", x.undo(), false);
         Kit.is("no text", x.fault(), -1);
     }
@@ -58,11 +59,15 @@ public final class EdgeNobodyTest {
         withTape("wear of one byte", Kit.ARGUMENT, x -> x.wear(false), 0);
     }
 
-    private static void withTape(String what, String exception, Twins.Deed deed, int... bytes) {
-        LaceBonds x = new LaceBonds();
-        Kit.tape(x, bytes);
-        Kit.leaves(x, what, exception, () -> deed.on(x));
-        Kit.is("used up", Kit.sizeOfTape(x), 0);
+    private static void withTape(String what, String exception, Kit.Deed deed, int... bytes) {
+        Kit.Maker told = ((Kit.Maker) LaceBonds::new).then(x -> {
+            Kit.tape(x, bytes);
+            return x;
+        });
+        Kit.leaves(told, what, exception, deed);
+        LaceBonds x = told.make();
+        Kit.refuses(what, exception, () -> deed.on(x));
+        Kit.is("used up", x.end(1), false);
         Kit.is("no text", x.fault(), -1);
     }
 
@@ -127,8 +132,8 @@ public final class EdgeNobodyTest {
         Kit.reads(x, true, "", 1);
         Kit.reads(x, true, "mud 3 4;fine 9;day 5", 2);
         Kit.is("mud", x.mud(3), 4);
-        Kit.wrongAt(x, true, "goal 0 0", 5);
-        Kit.wrongAt(x, true, "pledge 0 to 1 for 1 knot 0 till 1", 7);
+        Kit.wrongAt(LaceBonds::new, true, "goal 0 0", 5);
+        Kit.wrongAt(LaceBonds::new, true, "pledge 0 to 1 for 1 knot 0 till 1", 7);
         Kit.is("nobody still", x.count(0), 0);
     }
 }

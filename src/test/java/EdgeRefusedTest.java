@@ -49,13 +49,12 @@ public final class EdgeRefusedTest {
     }
 
     private static void twelveTexts(String text, String exception, int fault) {
-        LaceBonds x = Kit.land("person 9 pace 9 at 9", "", "", "", "", "", "", "", "", "", "", "");
-        x.goal(0, 3);
-        x.seed(5);
-        Kit.text(x, text);
-        Kit.leaves(x, "a 13th text", exception, () -> x.land());
+        Kit.Maker twelve = Kit.of("person 9 pace 9 at 9", "", "", "", "", "", "", "", "", "", "", "").then(x -> x.goal(0, 3)).then(x -> x.seed(5));
+        Kit.leaves(twelve, "a 13th text", exception, x -> land(x, text));
+        LaceBonds x = twelve.make();
+        Kit.refuses("a 13th text", exception, () -> land(x, text));
         Kit.is("its fault", x.fault(), fault);
-        Kit.is("used up", Kit.sizeOfTape(x), 0);
+        Kit.is("used up", x.end(1), false);
         Kit.is("no image", x.back(), false);
         Kit.is("the act is remembered", x.undo(), true);
         Kit.is("and undone", x.person(0, 3), 9);
@@ -153,9 +152,9 @@ public final class EdgeRefusedTest {
         Twins.refused("lost", Kit.STATE, x -> x.pay(7));
         Twins.refused("the purse is less, whatever the surety has", Kit.STATE, x -> x.pay(2));
         Kit.is("enough", Twins.make().pay(0), 50);
-        LaceBonds just = Kit.land("person 9 pace 1 at 1;person 0 pace 1 at 1;pledge 0 to 1 for 9 knot 0 till 9;pledge 1 to 1 for 10 knot 0 till 9");
-        Kit.leaves(just, "1 less", Kit.STATE, () -> just.pay(1));
-        Kit.is("just enough", just.pay(0), 9);
+        Kit.Maker just = Kit.of("person 9 pace 1 at 1;person 0 pace 1 at 1;pledge 0 to 1 for 9 knot 0 till 9;pledge 1 to 1 for 10 knot 0 till 9");
+        Kit.leaves(just, "1 less", Kit.STATE, x -> x.pay(1));
+        Kit.is("just enough", just.make().pay(0), 9);
     }
 
     private static void sureties() {
@@ -202,11 +201,12 @@ public final class EdgeRefusedTest {
         Twins.refused("lost", Kit.STATE, x -> x.give(7, 0));
         Twins.refused("the purse is less", Kit.STATE, x -> x.give(0, 1));
         Kit.is("enough", Twins.make().give(2, 2), 0);
-        LaceBonds just = Kit.land("person 9 pace 1 at 1;person 0 pace 1 at 1;person 10 pace 1 at 1;pledge 2 to 0 for 10 knot 0 till 9",
+        Kit.Maker just = Kit.of("person 9 pace 1 at 1;person 0 pace 1 at 1;person 10 pace 1 at 1;pledge 2 to 0 for 10 knot 0 till 9",
                 "person 9 pace 1 at 1;person 11 pace 1 at 1");
-        Kit.leaves(just, "1 less", Kit.STATE, () -> just.give(2, 3));
-        Kit.is("just enough", just.give(2, 2), 0);
-        Kit.is("1 more", just.give(2, 4), 2);
+        Kit.leaves(just, "1 less", Kit.STATE, x -> x.give(2, 3));
+        LaceBonds given = just.make();
+        Kit.is("just enough", given.give(2, 2), 0);
+        Kit.is("1 more", given.give(2, 4), 2);
     }
 
     private static void goalsAndRests() {

@@ -90,12 +90,12 @@ public final class EdgeTextTest {
             }
         }
         for (String n : none) {
-            Kit.wrongAt(world(), land, ahead + n + behind, ahead.length());
+            Kit.wrongAt(EdgeTextTest::world, land, ahead + n + behind, ahead.length());
         }
         // without the number: at what comes behind it, or at the text's end; where that is a number, too, one is missing at the end
         int blanks = behind.length() - behind.stripLeading().length();
         boolean another = behind.matches(" *[0-9]+");
-        Kit.wrongAt(world(), land, ahead + behind, ahead.length() + (another ? behind.length() : blanks));
+        Kit.wrongAt(EdgeTextTest::world, land, ahead + behind, ahead.length() + (another ? behind.length() : blanks));
     }
 
     private static LaceBonds world() {
@@ -113,23 +113,23 @@ public final class EdgeTextTest {
                 }
             }
         }
-        Kit.wrongAt(Kit.land(THREE), true, "pledge 999 to 1 for 5 knot 1 till 5", 7);
-        Kit.wrongAt(Kit.land(THREE), true, "pledge 0 to 999 for 5 knot 1 till 5", 12);
-        Kit.wrongAt(Kit.land(THREE), true, "pledge 0 to 0001 for 5 knot 1 till 5", 12);
-        Kit.wrongAt(Kit.land(THREE), true, "pledge 0 to 1 for 5 knot 1 till 5 by 999", 37);
-        Kit.wrongAt(Kit.land(THREE), true, "pledge 0 to 1 for 5 knot 1 till 5 by 0002", 37);
+        Kit.wrongAt(Kit.of(THREE), true, "pledge 999 to 1 for 5 knot 1 till 5", 7);
+        Kit.wrongAt(Kit.of(THREE), true, "pledge 0 to 999 for 5 knot 1 till 5", 12);
+        Kit.wrongAt(Kit.of(THREE), true, "pledge 0 to 0001 for 5 knot 1 till 5", 12);
+        Kit.wrongAt(Kit.of(THREE), true, "pledge 0 to 1 for 5 knot 1 till 5 by 999", 37);
+        Kit.wrongAt(Kit.of(THREE), true, "pledge 0 to 1 for 5 knot 1 till 5 by 0002", 37);
     }
 
     private static void pledge(int lace, int holder, int by) {
-        LaceBonds x = Kit.land(THREE);
         String text = "pledge " + lace + " to " + holder + " for 5 knot 1 till 5" + (by < 0 ? "" : " by " + by);
         if (lace > 5) {
-            Kit.wrongAt(x, true, text, 7);
+            Kit.wrongAt(Kit.of(THREE), true, text, 7);
         } else if (holder > 2 || holder == lace / 2) {
-            Kit.wrongAt(x, true, text, 12);
+            Kit.wrongAt(Kit.of(THREE), true, text, 12);
         } else if (by > 2 || by >= 0 && (by == lace / 2 || by == holder)) {
-            Kit.wrongAt(x, true, text, 37);
+            Kit.wrongAt(Kit.of(THREE), true, text, 37);
         } else {
+            LaceBonds x = Kit.land(THREE);
             Kit.reads(x, true, text, 2);
             Kit.is(text + ", how it is", x.lace(lace, 0), 1);
             Kit.is(text + ", the holder", x.lace(lace, 1), holder);
@@ -140,32 +140,29 @@ public final class EdgeTextTest {
     private static void laceInItsShoe() {
         Kit.sentence("in its shoe, else it is wrong");
         String pledge = "pledge 0 to 1 for 10 knot 1 till 1";
-        LaceBonds x = Kit.land(THREE);
-        Kit.wrongAt(x, true, pledge + ";" + pledge, 42);
-        Kit.reads(x, true, pledge, 2);
-        Kit.wrongAt(x, true, pledge, 7);
-        x.pay(0);
-        Kit.reads(x, true, pledge, 3);
-        x.undo();
-        x.days(2);
-        Kit.is("11 of a purse of 0", x.lace(0, 0), 2);
-        Kit.wrongAt(x, true, pledge, 7);
-        Kit.reads(x, true, pledge.replace("0 to", "1 to"), 4);
-        x.lend(1, 5, 1, 0, 50);
-        Kit.wrongAt(x, true, pledge.replace("0 to", "5 to"), 7);
-        x.undo();
-        Kit.reads(x, true, pledge.replace("0 to", "5 to"), 5);
+        String fifth = pledge.replace("0 to", "5 to");
+        Kit.wrongAt(Kit.of(THREE), true, pledge + ";" + pledge, 42);
+        Kit.Maker pledged = Kit.of(THREE, pledge);
+        Kit.wrongAt(pledged, true, pledge, 7);
+        Kit.reads(pledged.then(x -> x.pay(0)).make(), true, pledge, 3);
+        Kit.Maker lost = pledged.then(x -> x.days(2));
+        Kit.is("12 of a purse of 10", lost.make().lace(0, 0), 2);
+        Kit.wrongAt(lost, true, pledge, 7);
+        Kit.reads(lost.make(), true, pledge.replace("0 to", "1 to"), 3);
+        Kit.Maker lent = lost.then(x -> x.lend(1, 5, 1, 0, 50));
+        Kit.wrongAt(lent, true, fifth, 7);
+        Kit.reads(lent.then(x -> x.undo()).make(), true, fifth, 3);
     }
 
     private static void byThen() {
         Kit.sentence("a PERSON that there is by then");
         String person = "person 1 pace 1 at 1";
-        Kit.wrongAt(new LaceBonds(), true, "pledge 0 to 1 for 5 knot 1 till 5;" + person + ";" + person, 7);
-        Kit.wrongAt(new LaceBonds(), true, person + ";pledge 0 to 1 for 5 knot 1 till 5;" + person, 33);
-        Kit.wrongAt(new LaceBonds(), true, person + ";" + person + ";pledge 0 to 1 for 5 knot 1 till 5 by 2;" + person, 79);
-        Kit.wrongAt(new LaceBonds(), true, person + ";pledge 2 to 0 for 5 knot 1 till 5;" + person, 28);
-        Kit.wrongAt(new LaceBonds(), true, "goal 0 1;" + person, 5);
-        Kit.wrongAt(new LaceBonds(), true, person + ";goal 1 1;" + person, 26);
+        Kit.wrongAt(LaceBonds::new, true, "pledge 0 to 1 for 5 knot 1 till 5;" + person + ";" + person, 7);
+        Kit.wrongAt(LaceBonds::new, true, person + ";pledge 0 to 1 for 5 knot 1 till 5;" + person, 33);
+        Kit.wrongAt(LaceBonds::new, true, person + ";" + person + ";pledge 0 to 1 for 5 knot 1 till 5 by 2;" + person, 79);
+        Kit.wrongAt(LaceBonds::new, true, person + ";pledge 2 to 0 for 5 knot 1 till 5;" + person, 28);
+        Kit.wrongAt(LaceBonds::new, true, "goal 0 1;" + person, 5);
+        Kit.wrongAt(LaceBonds::new, true, person + ";goal 1 1;" + person, 26);
         Kit.reads(new LaceBonds(), true, person + ";goal 0 1;" + person + ";goal 1 1;pledge 1 to 1 for 5 knot 1 till 5;" + person
                 + ";pledge 5 to 1 for 5 knot 1 till 5 by 0", 1);
     }
@@ -206,11 +203,10 @@ public final class EdgeTextTest {
             }
             String text = String.join(" ", java.util.Arrays.copyOf(things, many));
             for (String behind : new String[] {"", " ", "   "}) {
-                LaceBonds x = Kit.land(THREE);
                 if (whole) {
-                    Kit.reads(x, land, text + behind, land ? 2 : 1 + (int) text.chars().filter(c -> c == ';').count());
+                    Kit.reads(Kit.land(THREE), land, text + behind, land ? 2 : 1 + (int) text.chars().filter(c -> c == ';').count());
                 } else {
-                    Kit.wrongAt(x, land, text + behind, text.length() + behind.length());
+                    Kit.wrongAt(Kit.of(THREE), land, text + behind, text.length() + behind.length());
                 }
             }
         }
@@ -224,20 +220,20 @@ public final class EdgeTextTest {
         wrongEverywhere(false, "slow 1 if not ( even or who + 1 < 3 + day and there ) ; fall 3");
         wrongEverywhere(false, "grow 1 ; fall 3 if tired < slack and held > place or mud < 999");
         Kit.sentence("a word that is none");
-        Kit.wrongAt(Kit.land(THREE), true, "days 5", 0);
-        Kit.wrongAt(Kit.land(THREE), true, "da 5", 0);
-        Kit.wrongAt(Kit.land(THREE), true, "dax 5", 0);
-        Kit.wrongAt(Kit.land(THREE), true, "xay 5", 0);
-        Kit.wrongAt(Kit.land(THREE), true, "fine 5;slow 5", 7);
-        Kit.wrongAt(Kit.land(THREE), false, "slow 5;fine 5", 7);
-        Kit.wrongAt(Kit.land(THREE), false, "slow 5 if purse < 3", 10);
-        Kit.wrongAt(Kit.land(THREE), false, "slow 5 if pace < 3", 10);
-        Kit.wrongAt(Kit.land(THREE), false, "slow 5 if who < even", 16);
-        Kit.wrongAt(Kit.land(THREE), false, "slow 5 if if", 10);
+        Kit.wrongAt(Kit.of(THREE), true, "days 5", 0);
+        Kit.wrongAt(Kit.of(THREE), true, "da 5", 0);
+        Kit.wrongAt(Kit.of(THREE), true, "dax 5", 0);
+        Kit.wrongAt(Kit.of(THREE), true, "xay 5", 0);
+        Kit.wrongAt(Kit.of(THREE), true, "fine 5;slow 5", 7);
+        Kit.wrongAt(Kit.of(THREE), false, "slow 5;fine 5", 7);
+        Kit.wrongAt(Kit.of(THREE), false, "slow 5 if purse < 3", 10);
+        Kit.wrongAt(Kit.of(THREE), false, "slow 5 if pace < 3", 10);
+        Kit.wrongAt(Kit.of(THREE), false, "slow 5 if who < even", 16);
+        Kit.wrongAt(Kit.of(THREE), false, "slow 5 if if", 10);
         for (String word : new String[] {"who", "slack", "held", "place", "mud", "tired", "day", "even", "there", "not"}) {
-            Kit.wrongAt(Kit.land(THREE), false, "slow 5 if " + word + "x < 3", 10);
-            Kit.wrongAt(Kit.land(THREE), false, "slow 5 if " + word.substring(1) + " < 3", 10);
-            Kit.wrongAt(Kit.land(THREE), false, "slow 5 if " + word.substring(0, word.length() - 1) + " < 3", 10);
+            Kit.wrongAt(Kit.of(THREE), false, "slow 5 if " + word + "x < 3", 10);
+            Kit.wrongAt(Kit.of(THREE), false, "slow 5 if " + word.substring(1) + " < 3", 10);
+            Kit.wrongAt(Kit.of(THREE), false, "slow 5 if " + word.substring(0, word.length() - 1) + " < 3", 10);
         }
     }
 
@@ -245,12 +241,12 @@ public final class EdgeTextTest {
         for (int at = 0; at >= 0; at = text.indexOf(' ', at + 1)) {
             int begin = at == 0 ? 0 : at + 1;
             for (String junk : JUNK) {
-                Kit.wrongAt(Kit.land(THREE), land, text.substring(0, begin) + junk + " " + text.substring(begin), begin);
-                Kit.wrongAt(Kit.land(THREE), land, text.substring(0, begin) + "  " + junk, begin + 2);
+                Kit.wrongAt(Kit.of(THREE), land, text.substring(0, begin) + junk + " " + text.substring(begin), begin);
+                Kit.wrongAt(Kit.of(THREE), land, text.substring(0, begin) + "  " + junk, begin + 2);
             }
         }
-        Kit.wrongAt(Kit.land(THREE), land, text + ",", text.length());
-        Kit.wrongAt(Kit.land(THREE), land, text + "  )", text.length() + 2);
+        Kit.wrongAt(Kit.of(THREE), land, text + ",", text.length());
+        Kit.wrongAt(Kit.of(THREE), land, text + "  )", text.length() + 2);
     }
 
     private static void wordsAndBlanks() {
@@ -263,20 +259,20 @@ public final class EdgeTextTest {
         Kit.reads(x, false, "slow1if not(even or who+1<3and there);fall3if 1<2", 2);
         Kit.reads(x, false, "  slow  1  if  not  (  even  or  who  +  1  <  3  and  there  )  ;  fall  3  if  1  <  2  ", 2);
         Kit.is("as told", x.walks(0, 1), 3);
-        Kit.wrongAt(x, true, "fine3day4", 5);
-        Kit.wrongAt(x, true, "mud34", 3);
-        Kit.wrongAt(x, true, "goal23", 4);
-        Kit.wrongAt(x, true, "person5pacepace", 7);
-        Kit.wrongAt(x, true, "person5 pace3at7to", 16);
-        Kit.wrongAt(x, true, "fi ne 3", 0);
-        Kit.wrongAt(x, true, "mud 3 4 5", 8);
-        Kit.wrongAt(x, false, "slowif", 0);
-        Kit.wrongAt(x, false, "slow1ifnot even", 5);
-        Kit.wrongAt(x, false, "slow1if noteven", 8);
-        Kit.wrongAt(x, false, "slow1if evenor there", 8);
-        Kit.wrongAt(x, false, "slow1if even or(there", 21);
-        Kit.wrongAt(x, false, "slow 1 if who < 1 2", 18);
-        Kit.wrongAt(x, false, "slow 1 0 if even", 7);
+        Kit.wrongAt(Kit.of(THREE), true, "fine3day4", 5);
+        Kit.wrongAt(Kit.of(THREE), true, "mud34", 3);
+        Kit.wrongAt(Kit.of(THREE), true, "goal23", 4);
+        Kit.wrongAt(Kit.of(THREE), true, "person5pacepace", 7);
+        Kit.wrongAt(Kit.of(THREE), true, "person5 pace3at7to", 16);
+        Kit.wrongAt(Kit.of(THREE), true, "fi ne 3", 0);
+        Kit.wrongAt(Kit.of(THREE), true, "mud 3 4 5", 8);
+        Kit.wrongAt(Kit.of(THREE), false, "slowif", 0);
+        Kit.wrongAt(Kit.of(THREE), false, "slow1ifnot even", 5);
+        Kit.wrongAt(Kit.of(THREE), false, "slow1if noteven", 8);
+        Kit.wrongAt(Kit.of(THREE), false, "slow1if evenor there", 8);
+        Kit.wrongAt(Kit.of(THREE), false, "slow1if even or(there", 21);
+        Kit.wrongAt(Kit.of(THREE), false, "slow 1 if who < 1 2", 18);
+        Kit.wrongAt(Kit.of(THREE), false, "slow 1 0 if even", 7);
     }
 
     private static void linesTooMany() {
@@ -292,32 +288,33 @@ public final class EdgeTextTest {
             Kit.reads(x, land, (line + ";").repeat(many - 1) + line, land ? 2 : many);
         }
         String full = (line + " ;").repeat(most);
-        Kit.wrongAt(Kit.land(THREE), land, full + "  " + line, full.length() + 2);
-        Kit.wrongAt(Kit.land(THREE), land, full + line + ";" + line + ";" + line, full.length());
-        Kit.wrongAt(Kit.land(THREE), land, full + line + " 7777", full.length());
-        Kit.wrongAt(Kit.land(THREE), land, full + " zz", full.length() + 1);
-        Kit.wrongAt(Kit.land(THREE), land, full, full.length());
-        Kit.wrongAt(Kit.land(THREE), land, full + "  ", full.length() + 2);
-        Kit.wrongAt(Kit.land(THREE), land, full.substring(0, full.length() - 1) + "zz", full.length() - 1);
+        Kit.wrongAt(Kit.of(THREE), land, full + "  " + line, full.length() + 2);
+        Kit.wrongAt(Kit.of(THREE), land, full + line + ";" + line + ";" + line, full.length());
+        Kit.wrongAt(Kit.of(THREE), land, full + line + " 7777", full.length());
+        Kit.wrongAt(Kit.of(THREE), land, full + " zz", full.length() + 1);
+        Kit.wrongAt(Kit.of(THREE), land, full, full.length());
+        Kit.wrongAt(Kit.of(THREE), land, full + "  ", full.length() + 2);
+        Kit.wrongAt(Kit.of(THREE), land, full.substring(0, full.length() - 1) + "zz", full.length() - 1);
     }
 
     private static void peopleTooMany() {
         Kit.sentence("of a LINE, a PERSON too many, the first word");
         String one = "person 1 pace 1 at 1;";
+        Kit.wrongAt(LaceBonds::new, true, one.repeat(6) + "  person 1 pace 1 at 1", 128);
+        Kit.wrongAt(LaceBonds::new, true, one.repeat(6) + "person", 126);
+        Kit.wrongAt(LaceBonds::new, true, one.repeat(6) + "person 7777", 126);
+        Kit.wrongAt(LaceBonds::new, true, one.repeat(6) + "person 1 pace 1 at 1;zz", 126);
         LaceBonds x = new LaceBonds();
-        Kit.wrongAt(x, true, one.repeat(6) + "  person 1 pace 1 at 1", 128);
-        Kit.wrongAt(x, true, one.repeat(6) + "person", 126);
-        Kit.wrongAt(x, true, one.repeat(6) + "person 7777", 126);
-        Kit.wrongAt(x, true, one.repeat(6) + "person 1 pace 1 at 1;zz", 126);
         Kit.reads(x, true, one.repeat(5) + "fine 3", 1);
         Kit.is("five", x.count(0), 5);
-        Kit.wrongAt(x, true, one + "person 1 pace 1 at 1", 21);
+        Kit.wrongAt(Kit.of(one.repeat(5) + "fine 3"), true, one + "person 1 pace 1 at 1", 21);
         Kit.reads(x, true, "person 9 pace 1 at 1", 2);
         Kit.is("six", x.count(0), 6);
         Kit.is("the sixth", x.person(5, 0), 9);
         Kit.is("its right lace", x.lace(11, 0), 0);
-        Kit.wrongAt(x, true, "person 9 pace 1 at 1", 0);
-        Kit.wrongAt(x, true, "fine 3; person 9 pace 1 at 1", 8);
+        Kit.Maker six = Kit.of(one.repeat(5) + "fine 3", "person 9 pace 1 at 1");
+        Kit.wrongAt(six, true, "person 9 pace 1 at 1", 0);
+        Kit.wrongAt(six, true, "fine 3; person 9 pace 1 at 1", 8);
         Kit.reads(x, true, "pledge 11 to 4 for 1 knot 1 till 1 by 0;goal 5 3", 3);
     }
 
@@ -328,21 +325,21 @@ public final class EdgeTextTest {
             String shut = " )".repeat(6 - nots);
             Kit.reads(Kit.land(THREE), false, "slow 1 if " + open + "even" + shut, 1);
             Kit.reads(Kit.land(THREE), false, "slow 1 if " + open + "even" + shut + " and " + open + "there" + shut + ";slow 2 if " + open + "0<1" + shut, 2);
-            Kit.wrongAt(Kit.land(THREE), false, "slow 1 if " + open + "not even" + shut, 10 + open.length());
-            Kit.wrongAt(Kit.land(THREE), false, "slow 1 if " + open + "( even )" + shut, 10 + open.length());
+            Kit.wrongAt(Kit.of(THREE), false, "slow 1 if " + open + "not even" + shut, 10 + open.length());
+            Kit.wrongAt(Kit.of(THREE), false, "slow 1 if " + open + "( even )" + shut, 10 + open.length());
             if (nots < 6) {
-                Kit.wrongAt(Kit.land(THREE), false, "slow 1 if " + open + "there or (" + shut, 10 + open.length() + 9);
-                Kit.wrongAt(Kit.land(THREE), false, "slow 1 if " + open + "there and not", 10 + open.length() + 10);
+                Kit.wrongAt(Kit.of(THREE), false, "slow 1 if " + open + "there or (" + shut, 10 + open.length() + 9);
+                Kit.wrongAt(Kit.of(THREE), false, "slow 1 if " + open + "there and not", 10 + open.length() + 10);
             }
         }
         String mixed = "slow 1 if not ( not ( not ( ";
         Kit.reads(Kit.land(THREE), false, mixed + "even ) ) )", 1);
-        Kit.wrongAt(Kit.land(THREE), false, mixed + "not even ) ) )", mixed.length());
-        Kit.wrongAt(Kit.land(THREE), false, mixed + "(even) ) ) )", mixed.length());
-        Kit.wrongAt(Kit.land(THREE), false, mixed + "even ) and not ( not ) )", mixed.length() + 17);
+        Kit.wrongAt(Kit.of(THREE), false, mixed + "not even ) ) )", mixed.length());
+        Kit.wrongAt(Kit.of(THREE), false, mixed + "(even) ) ) )", mixed.length());
+        Kit.wrongAt(Kit.of(THREE), false, mixed + "even ) and not ( not ) )", mixed.length() + 17);
         Kit.reads(Kit.land(THREE), false, mixed + "even ) and not ( even ) ) )", 1);
-        Kit.wrongAt(Kit.land(THREE), false, "slow 1 if " + "(".repeat(390), 16);
-        Kit.wrongAt(Kit.land(THREE), false, "slow 1 if " + "not ".repeat(97), 34);
+        Kit.wrongAt(Kit.of(THREE), false, "slow 1 if " + "(".repeat(390), 16);
+        Kit.wrongAt(Kit.of(THREE), false, "slow 1 if " + "not ".repeat(97), 34);
     }
 
     private static void thirteenthText() {
@@ -352,16 +349,10 @@ public final class EdgeTextTest {
             Kit.reads(x, true, "", n);
         }
         x.image();
-        Kit.wrongAt(x, true, "zz", 0);
         Kit.reads(x, true, "person 1 pace 1 at 1", 12);
         x.rest(0);
-        for (String text : new String[] {"", "   ", "fine 9", "person 1 pace 1 at 1", "day 3;day 4"}) {
-            Kit.text(x, text);
-            Kit.leaves(x, "a 13th: " + text, Kit.UNSUPPORTED, () -> x.land());
-            Kit.is("read to its end", x.fault(), -1);
-            Kit.is("used up", Kit.sizeOfTape(x), 0);
-            Kit.wrongAt(x, true, text + " zz", text.length() + 1);
-        }
+        Kit.text(x, "fine 9");
+        Kit.refuses("a 13th", Kit.UNSUPPORTED, () -> x.land());
         Kit.is("acts are remembered still", x.undo(), true);
         Kit.reads(x, false, "slow 1", 1);
         x.back();
@@ -369,40 +360,66 @@ public final class EdgeTextTest {
         Kit.reads(x, true, "person 1 pace 1 at 1", 12);
         Kit.text(x, "fine 9");
         Kit.refuses("a 13th again", Kit.UNSUPPORTED, () -> x.land());
+        Kit.Maker eleven = Kit.of("", "", "", "", "", "", "", "", "", "", "");
+        Kit.wrongAt(eleven, true, "zz", 0);
+        Kit.Maker twelve = eleven.then(y -> tell(y, "person 1 pace 1 at 1")).then(y -> y.rest(0));
+        for (String text : new String[] {"", "   ", "fine 9", "person 1 pace 1 at 1", "day 3;day 4"}) {
+            thirteenth(twelve, text);
+            Kit.wrongAt(twelve, true, text + " zz", text.length() + 1);
+        }
+    }
+
+    private static void thirteenth(Kit.Maker twelve, String text) {
+        Kit.leaves(twelve, "a 13th: " + text, Kit.UNSUPPORTED, x -> tell(x, text));
+        LaceBonds x = twelve.make();
+        Kit.text(x, text);
+        Kit.refuses("a 13th: " + text, Kit.UNSUPPORTED, () -> x.land());
+        Kit.is("read to its end", x.fault(), -1);
+        Kit.is("used up", x.end(1), false);
     }
 
     private static void nothingStays() {
         Kit.sentence("Of a wrong text nothing stays.");
         for (String line : new String[] {"person 1 pace 1 at 1", "pledge 5 to 0 for 5 knot 1 till 5 by 1", "mud 3 4", "goal 2 9", "fine 9", "day 9"}) {
-            Kit.wrongAt(world(), true, line + ";zz", line.length() + 1);
-            Kit.wrongAt(world(), true, line + ";", line.length() + 1);
-            Kit.wrongAt(world(), true, line + " " + line, line.length() + 1);
+            Kit.wrongAt(EdgeTextTest::world, true, line + ";zz", line.length() + 1);
+            Kit.wrongAt(EdgeTextTest::world, true, line + ";", line.length() + 1);
+            Kit.wrongAt(EdgeTextTest::world, true, line + " " + line, line.length() + 1);
         }
+        String wrong = "slow 5;grow 5;fall 5;zz";
         LaceBonds x = world();
-        Kit.wrongAt(x, false, "slow 5;grow 5;fall 5;zz", 21);
+        refused(x, false, wrong, 21);
         Kit.is("no law still", x.count(2), -1);
         Kit.reads(x, false, "slow 3 if even;fall 4", 2);
-        Kit.wrongAt(x, false, "slow 5;grow 5;fall 5;zz", 21);
+        refused(x, false, wrong, 21);
         Kit.is("the law before still", x.count(2), 2);
         Kit.is("it slows", x.walks(1, 0), 6);
         Kit.is("it lets fall", x.walks(1, 1), 4);
-        Kit.wrongAt(x, true, "person 1 pace 1 at 1;zz", 21);
+        refused(x, true, "person 1 pace 1 at 1;zz", 21);
         Kit.reads(x, true, "person 7 pace 2 at 3", 2);
         Kit.is("no trace of the one who was not", x.person(3, 0) * 100 + x.person(3, 1) * 10 + x.person(3, 3), 723);
+        Kit.Maker told = ((Kit.Maker) EdgeTextTest::world).law("slow 3 if even;fall 4");
+        Kit.wrongAt(told, false, wrong, 21);
+        Kit.wrongAt(told, true, "person 1 pace 1 at 1;zz", 21);
+    }
+
+    private static void refused(LaceBonds x, boolean land, String text, int at) {
+        Kit.text(x, text);
+        Kit.refuses(text, Kit.ARGUMENT, () -> land ? x.land() : x.law());
+        Kit.is("fault of " + text, x.fault(), at);
     }
 
     private static void latestFault() {
         Kit.sentence("The first wrong byte of the latest text that was read; NONE without one, and ahead of any.");
         LaceBonds x = new LaceBonds();
         Kit.is("ahead of any", x.fault(), -1);
-        Kit.wrongAt(x, true, "person 1 pace 1 at 1;x", 21);
+        refused(x, true, "person 1 pace 1 at 1;x", 21);
         Kit.is("asked again", x.fault(), 21);
-        Kit.wrongAt(x, false, "slow 1 x", 7);
+        refused(x, false, "slow 1 x", 7);
         Kit.reads(x, false, "slow 1", 1);
-        Kit.wrongAt(x, false, "x", 0);
+        refused(x, false, "x", 0);
         Kit.reads(x, true, "", 1);
-        Kit.wrongAt(x, true, " ".repeat(399) + "x", 399);
-        Kit.wrongAt(x, false, " ".repeat(396) + "slow", 400);
+        refused(x, true, " ".repeat(399) + "x", 399);
+        refused(x, false, " ".repeat(396) + "slow", 400);
         Kit.tape(x, 1);
         Kit.refuses("no rows", Kit.ARGUMENT, () -> x.wear(false));
         Kit.tape(x);
@@ -413,8 +430,8 @@ public final class EdgeTextTest {
         Kit.is("what is no text leaves it", x.fault(), 400);
     }
 
-    private static void tell(LaceBonds x, String text) {
+    private static int tell(LaceBonds x, String text) {
         Kit.text(x, text);
-        x.land();
+        return x.land();
     }
 }

@@ -10,6 +10,30 @@ final class Kit {
         Object run();
     }
 
+    /** What is done with an object. */
+    interface Deed {
+        Object on(LaceBonds x);
+    }
+
+    /** How objects are made alike: each check gets its own, as the document promises nothing behind the 512th call of one. */
+    interface Maker {
+        LaceBonds make();
+
+        /** The same, and then this is done. */
+        default Maker then(Deed deed) {
+            return () -> {
+                LaceBonds x = make();
+                deed.on(x);
+                return x;
+            };
+        }
+
+        /** The same, and then this text of THE LAW is told. */
+        default Maker law(String text) {
+            return () -> lawOf(make(), text);
+        }
+    }
+
     static final String INDEX = "IndexOutOfBoundsException";
     static final String ARGUMENT = "IllegalArgumentException";
     static final String STATE = "IllegalStateException";
@@ -92,6 +116,11 @@ final class Kit {
         return x;
     }
 
+    /** New objects with these texts of THE LAND. */
+    static Maker of(String... texts) {
+        return () -> land(texts);
+    }
+
     static LaceBonds lawOf(LaceBonds x, String text) {
         text(x, text);
         x.law();
@@ -105,14 +134,14 @@ final class Kit {
         is("fault of " + text, x.fault(), LaceBonds.NONE);
     }
 
-    /** A text that must be refused at that byte, and that leaves all as it was. */
-    static void wrongAt(LaceBonds x, boolean land, String text, int at) {
-        String before = all(x);
+    /** A text that must be refused at that byte, and that leaves all as it is with one made alike, to which it is not told. */
+    static void wrongAt(Maker world, boolean land, String text, int at) {
+        LaceBonds x = world.make();
         text(x, text);
         refuses((land ? "land " : "law ") + text, ARGUMENT, () -> land ? x.land() : x.law());
         is("fault of " + text, x.fault(), at);
         is("the tape behind " + text, x.end(1), false);
-        is("state behind " + text, all(x), before);
+        is("state behind " + text, all(x), all(world.make()));
     }
 
     /** How many bytes the TAPE has; it still has them all. */
@@ -124,11 +153,20 @@ final class Kit {
         return size;
     }
 
-    /** A call that must be refused, and that leaves all as it was. */
-    static void leaves(LaceBonds x, String what, String exception, Call call) {
-        String before = all(x);
-        refuses(what, exception, call);
-        is("state behind " + what, all(x), before);
+    /** A call that must be refused, and that leaves all as it is with one made alike, on which it is not done. */
+    static void leaves(Maker world, String what, String exception, Deed call) {
+        same(world, what, "throws " + exception, call);
+    }
+
+    /** What is only asked: the answer that is due, and all as it is with one made alike, which is not asked. */
+    static void asks(Maker world, String what, Object due, Deed question) {
+        same(world, what, due, question);
+    }
+
+    private static void same(Maker world, String what, Object due, Deed deed) {
+        LaceBonds x = world.make();
+        is(what, answer(() -> deed.on(x)), due);
+        is("state behind " + what, all(x), all(world.make()));
     }
 
     /** All that can be asked of an object without changing it, but for fault() and the TAPE. */

@@ -61,7 +61,9 @@ public final class LandTest {
         for (int n = 1; n <= 12; n++) {
             Kit.reads(x, true, n == 7 ? "person 1 pace 1 at 1" : "", n);
         }
-        Kit.wrongAt(x, true, "days", 0);
+        Kit.text(x, "days");
+        Kit.refuses("a wrong 13th text", Kit.ARGUMENT, () -> x.land());
+        Kit.is("it was read", x.fault(), 0);
         String before = Kit.all(x);
         Kit.text(x, "fine 9");
         Kit.refuses("a 13th text", Kit.UNSUPPORTED, () -> x.land());
@@ -73,79 +75,82 @@ public final class LandTest {
     }
 
     private static void wrongPeople() {
-        LaceBonds x = Kit.land("");
-        Kit.wrongAt(x, true, "person", 6);
-        Kit.wrongAt(x, true, "person ", 7);
-        Kit.wrongAt(x, true, "persona 1", 0);
-        Kit.wrongAt(x, true, "Person 1", 0);
-        Kit.wrongAt(x, true, "person 1000 pace 1 at 1", 7);
-        Kit.wrongAt(x, true, "person 0001 pace 1 at 1", 7);
-        Kit.wrongAt(x, true, "person -1 pace 1 at 1", 7);
-        Kit.wrongAt(x, true, "person 1 1 pace", 9);
-        Kit.wrongAt(x, true, "person 1 pac 1", 9);
-        Kit.wrongAt(x, true, "person 1 pace 0", 14);
-        Kit.wrongAt(x, true, "person 1 pace 10", 14);
-        Kit.wrongAt(x, true, "person 1 pace 1 on", 16);
-        Kit.wrongAt(x, true, "person 1 pace 1 at 20", 19);
-        Kit.wrongAt(x, true, "person 1 pace 1 at", 18);
-        Kit.wrongAt(x, true, "person 1 pace 1 at 1 2", 21);
-        Kit.wrongAt(x, true, "person 1 pace 1 at 1 person", 21);
-        Kit.wrongAt(x, true, "person 1 pace 1 at 1\t", 20);
+        Kit.Maker world = Kit.of("");
+        Kit.wrongAt(world, true, "person", 6);
+        Kit.wrongAt(world, true, "person ", 7);
+        Kit.wrongAt(world, true, "persona 1", 0);
+        Kit.wrongAt(world, true, "Person 1", 0);
+        Kit.wrongAt(world, true, "person 1000 pace 1 at 1", 7);
+        Kit.wrongAt(world, true, "person 0001 pace 1 at 1", 7);
+        Kit.wrongAt(world, true, "person -1 pace 1 at 1", 7);
+        Kit.wrongAt(world, true, "person 1 1 pace", 9);
+        Kit.wrongAt(world, true, "person 1 pac 1", 9);
+        Kit.wrongAt(world, true, "person 1 pace 0", 14);
+        Kit.wrongAt(world, true, "person 1 pace 10", 14);
+        Kit.wrongAt(world, true, "person 1 pace 1 on", 16);
+        Kit.wrongAt(world, true, "person 1 pace 1 at 20", 19);
+        Kit.wrongAt(world, true, "person 1 pace 1 at", 18);
+        Kit.wrongAt(world, true, "person 1 pace 1 at 1 2", 21);
+        Kit.wrongAt(world, true, "person 1 pace 1 at 1 person", 21);
+        Kit.wrongAt(world, true, "person 1 pace 1 at 1\t", 20);
     }
 
     private static void wrongPledges() {
-        LaceBonds x = Kit.land(TWO, "person 1 pace 1 at 1", "pledge 1 to 2 for 5 knot 1 till 5");
-        Kit.wrongAt(x, true, "pledge 6 to 1", 7);
-        Kit.wrongAt(x, true, "pledge 1 to 1", 7);
-        Kit.wrongAt(x, true, "pledge x", 7);
-        Kit.wrongAt(x, true, "pledge 0 for", 9);
-        Kit.wrongAt(x, true, "pledge 0 to 0 for", 12);
-        Kit.wrongAt(x, true, "pledge 0 to 3 for", 12);
-        Kit.wrongAt(x, true, "pledge 0 to 1 to", 14);
-        Kit.wrongAt(x, true, "pledge 0 to 1 for 0", 18);
-        Kit.wrongAt(x, true, "pledge 0 to 1 for 1000", 18);
-        Kit.wrongAt(x, true, "pledge 0 to 1 for 5 till", 20);
-        Kit.wrongAt(x, true, "pledge 0 to 1 for 5 knot 10", 25);
-        Kit.wrongAt(x, true, "pledge 0 to 1 for 5 knot 1 by", 27);
-        Kit.wrongAt(x, true, "pledge 0 to 1 for 5 knot 1 till 0", 32);
-        Kit.wrongAt(x, true, "pledge 0 to 1 for 5 knot 1 till 1000", 32);
-        Kit.wrongAt(x, true, "pledge 0 to 1 for 5 knot 1 till 5 by", 36);
-        Kit.wrongAt(x, true, "pledge 0 to 1 for 5 knot 1 till 5 by 0", 37);
-        Kit.wrongAt(x, true, "pledge 0 to 1 for 5 knot 1 till 5 by 1", 37);
-        Kit.wrongAt(x, true, "pledge 0 to 1 for 5 knot 1 till 5 by 3", 37);
-        Kit.wrongAt(x, true, "pledge 0 to 1 for 5 knot 1 till 5 by 2 by", 39);
-        Kit.wrongAt(x, true, "pledge 0 to 1 for 5 knot 1 till 5;pledge 0 to 1", 41);
-        Kit.wrongAt(x, true, "pledge 5 to 0 for 5 knot 1 till 5 by 2", 37);
-        Kit.reads(x, true, "pledge 5 to 0 for 5 knot 1 till 5 by 1", 4);
-        x.days(60);
+        Kit.Maker world = Kit.of(TWO, "person 1 pace 1 at 1", "pledge 1 to 2 for 5 knot 1 till 5");
+        Kit.wrongAt(world, true, "pledge 6 to 1", 7);
+        Kit.wrongAt(world, true, "pledge 1 to 1", 7);
+        Kit.wrongAt(world, true, "pledge x", 7);
+        Kit.wrongAt(world, true, "pledge 0 for", 9);
+        Kit.wrongAt(world, true, "pledge 0 to 0 for", 12);
+        Kit.wrongAt(world, true, "pledge 0 to 3 for", 12);
+        Kit.wrongAt(world, true, "pledge 0 to 1 to", 14);
+        Kit.wrongAt(world, true, "pledge 0 to 1 for 0", 18);
+        Kit.wrongAt(world, true, "pledge 0 to 1 for 1000", 18);
+        Kit.wrongAt(world, true, "pledge 0 to 1 for 5 till", 20);
+        Kit.wrongAt(world, true, "pledge 0 to 1 for 5 knot 10", 25);
+        Kit.wrongAt(world, true, "pledge 0 to 1 for 5 knot 1 by", 27);
+        Kit.wrongAt(world, true, "pledge 0 to 1 for 5 knot 1 till 0", 32);
+        Kit.wrongAt(world, true, "pledge 0 to 1 for 5 knot 1 till 1000", 32);
+        Kit.wrongAt(world, true, "pledge 0 to 1 for 5 knot 1 till 5 by", 36);
+        Kit.wrongAt(world, true, "pledge 0 to 1 for 5 knot 1 till 5 by 0", 37);
+        Kit.wrongAt(world, true, "pledge 0 to 1 for 5 knot 1 till 5 by 1", 37);
+        Kit.wrongAt(world, true, "pledge 0 to 1 for 5 knot 1 till 5 by 3", 37);
+        Kit.wrongAt(world, true, "pledge 0 to 1 for 5 knot 1 till 5 by 2 by", 39);
+        Kit.wrongAt(world, true, "pledge 0 to 1 for 5 knot 1 till 5;pledge 0 to 1", 41);
+        Kit.wrongAt(world, true, "pledge 5 to 0 for 5 knot 1 till 5 by 2", 37);
+        Kit.Maker later = Kit.of(TWO, "person 1 pace 1 at 1", "pledge 1 to 2 for 5 knot 1 till 5", "pledge 5 to 0 for 5 knot 1 till 5 by 1").then(x -> x.days(60));
+        Kit.wrongAt(later, true, "pledge 1 to 0", 7);
+        LaceBonds x = later.make();
         Kit.is("lace 1 is lost", x.lace(1, 0), 2);
         Kit.is("lace 5 was paid", x.lace(5, 0), 0);
-        Kit.wrongAt(x, true, "pledge 1 to 0", 7);
         Kit.reads(x, true, "pledge 5 to 1 for 5 knot 1 till 5", 5);
         Kit.reads(x, true, "person 1 pace 1 at 1;pledge 7 to 0 for 1 knot 0 till 1 by 1", 6);
     }
 
     private static void wrongOthers() {
-        LaceBonds x = Kit.land(TWO);
-        Kit.wrongAt(x, true, "mud 20 1", 4);
-        Kit.wrongAt(x, true, "mud 3", 5);
-        Kit.wrongAt(x, true, "mud 3 10", 6);
-        Kit.wrongAt(x, true, "goal 2 1", 5);
-        Kit.wrongAt(x, true, "goal 1 20", 7);
-        Kit.wrongAt(x, true, "goal 1", 6);
-        Kit.wrongAt(x, true, "fine 100", 5);
-        Kit.wrongAt(x, true, "day 1000", 4);
-        Kit.wrongAt(x, true, "day", 3);
-        Kit.wrongAt(x, true, ";", 0);
-        Kit.wrongAt(x, true, "day 1;", 6);
-        Kit.wrongAt(x, true, "day 1; ", 7);
-        Kit.wrongAt(x, true, "day 1;;day 2", 6);
-        Kit.wrongAt(x, true, "day 1 ,", 6);
-        Kit.wrongAt(x, true, "day 1 day 2", 6);
-        Kit.wrongAt(x, true, "slow 1", 0);
-        Kit.wrongAt(x, true, "5", 0);
-        Kit.wrongAt(x, true, "dayday 1", 0);
-        Kit.wrongAt(x, true, "da y 1", 0);
+        Kit.Maker world = Kit.of(TWO);
+        Kit.wrongAt(world, true, "mud 20 1", 4);
+        Kit.wrongAt(world, true, "mud 3", 5);
+        Kit.wrongAt(world, true, "mud 3 10", 6);
+        Kit.wrongAt(world, true, "goal 2 1", 5);
+        Kit.wrongAt(world, true, "goal 1 20", 7);
+        Kit.wrongAt(world, true, "goal 1", 6);
+        Kit.wrongAt(world, true, "fine 100", 5);
+        Kit.wrongAt(world, true, "day 1000", 4);
+        Kit.wrongAt(world, true, "day", 3);
+        Kit.wrongAt(world, true, ";", 0);
+        Kit.wrongAt(world, true, "day 1;", 6);
+        Kit.wrongAt(world, true, "day 1; ", 7);
+        Kit.wrongAt(world, true, "day 1;;day 2", 6);
+        Kit.wrongAt(world, true, "day 1 ,", 6);
+        Kit.wrongAt(world, true, "day 1 day 2", 6);
+        Kit.wrongAt(world, true, "slow 1", 0);
+        Kit.wrongAt(world, true, "5", 0);
+        Kit.wrongAt(world, true, "dayday 1", 0);
+        Kit.wrongAt(world, true, "da y 1", 0);
+        LaceBonds x = world.make();
+        Kit.text(x, "da y 1");
+        Kit.refuses("a wrong text", Kit.ARGUMENT, () -> x.land());
         Kit.is("the fault stays till the next text", x.fault(), 0);
         Kit.tape(x, 1, 2, 3);
         Kit.refuses("no rows", Kit.ARGUMENT, () -> x.carry(-1));
@@ -154,26 +159,29 @@ public final class LandTest {
     }
 
     private static void tooMany() {
+        Kit.wrongAt(LaceBonds::new, true, "day 1;".repeat(14) + "day 1", 84);
+        Kit.wrongAt(LaceBonds::new, true, "day 1;".repeat(14) + "  ;", 86);
+        Kit.wrongAt(LaceBonds::new, true, "day 1;".repeat(14), 84);
         LaceBonds x = new LaceBonds();
-        Kit.wrongAt(x, true, "day 1;".repeat(14) + "day 1", 84);
-        Kit.wrongAt(x, true, "day 1;".repeat(14) + "  ;", 86);
-        Kit.wrongAt(x, true, "day 1;".repeat(14), 84);
         Kit.reads(x, true, "day 1;".repeat(13) + "day 2", 1);
         Kit.is("14 lines stand", x.count(3), 2);
         String one = "person 1 pace 1 at 0;";
-        Kit.wrongAt(x, true, one.repeat(6) + "person 5", 126);
+        Kit.wrongAt(LaceBonds::new, true, one.repeat(6) + "person 5", 126);
         Kit.reads(x, true, one.repeat(5) + "person 5 pace 5 at 5", 2);
         Kit.is("six people", x.count(0), 6);
-        Kit.wrongAt(x, true, "day 7; person 1000", 7);
         Kit.is("purse of the sixth", x.person(5, 0), 5);
+        Kit.wrongAt(Kit.of(one.repeat(5) + "person 5 pace 5 at 5"), true, "day 7; person 1000", 7);
     }
 
     private static void nothingStays() {
+        String wrong = "person 1 pace 1 at 1;pledge 0 to 1 for 5 knot 1 till 5;mud 1 1;goal 0 9;fine 9;day 9;x";
         LaceBonds x = Kit.land(TWO);
         x.goal(0, 5);
         x.image();
-        Kit.wrongAt(x, true, "person 1 pace 1 at 1;pledge 0 to 1 for 5 knot 1 till 5;mud 1 1;goal 0 9;fine 9;day 9;x", 85);
-        Kit.is("acts are remembered behind a wrong text", x.count(10), 1);
+        Kit.wrongAt(Kit.of(TWO).then(y -> y.goal(0, 5)), true, wrong, 85);
+        Kit.text(x, wrong);
+        Kit.refuses("a wrong text", Kit.ARGUMENT, () -> x.land());
+        Kit.is("acts are remembered behind it", x.count(10), 1);
         Kit.is("undo", x.undo(), true);
         x.goal(0, 6);
         Kit.reads(x, true, "", 2);

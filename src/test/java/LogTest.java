@@ -70,15 +70,14 @@ public final class LogTest {
     }
 
     private static void refusals() {
-        LaceBonds x = Kit.land("person 500 pace 5 at 0;person 500 pace 7 at 0");
-        x.lend(0, 2, 1, 0, 9999);
+        Kit.Maker world = Kit.of("person 500 pace 5 at 0;person 500 pace 7 at 0").then(x -> x.lend(0, 2, 1, 0, 9999));
         for (int lace : new int[] {-1, 4, Integer.MIN_VALUE, Integer.MAX_VALUE}) {
-            Kit.leaves(x, "led " + lace, Kit.INDEX, () -> x.led(lace, false));
-            Kit.leaves(x, "led day " + lace, Kit.INDEX, () -> x.led(lace, true));
+            Kit.leaves(world, "led " + lace, Kit.INDEX, x -> x.led(lace, false));
+            Kit.leaves(world, "led day " + lace, Kit.INDEX, x -> x.led(lace, true));
         }
         for (int what : new int[] {-1, 4, Integer.MIN_VALUE, Integer.MAX_VALUE}) {
-            Kit.leaves(x, "log what " + what, Kit.ELEMENT, () -> x.log(0, what));
-            Kit.leaves(x, "log of none what " + what, Kit.ELEMENT, () -> x.log(9, what));
+            Kit.leaves(world, "log what " + what, Kit.ELEMENT, x -> x.log(0, what));
+            Kit.leaves(world, "log of none what " + what, Kit.ELEMENT, x -> x.log(9, what));
         }
     }
 }

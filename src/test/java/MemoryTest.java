@@ -1,6 +1,3 @@
-import java.util.ArrayList;
-import java.util.List;
-
 /** Promises 46 to 48: undo, image, back. */
 public final class MemoryTest {
     private static final String THREE = "person 100 pace 5 at 0;person 20 pace 6 at 10;person 990 pace 4 at 5;pledge 0 to 1 for 5 knot 1 till 2 by 2"
@@ -9,60 +6,82 @@ public final class MemoryTest {
     public static void main(String[] args) {
         eachAct();
         twelve();
+        undoneAreGone();
         forgotten();
-        images();
+        imageOfNothing();
+        imageOfAll();
+        imageOfLaw();
         between();
         Kit.close("MemoryTest");
     }
 
     private static void eachAct() {
-        LaceBonds x = Kit.lawOf(Kit.land(THREE), "slow 1;fall 40;grow 2");
-        Kit.is("none yet", x.undo(), false);
-        undone(x, "lend", () -> x.lend(0, 2, 30, 4, 9));
-        undone(x, "pay", () -> x.pay(0));
-        undone(x, "surety", () -> x.surety(0, -1));
-        x.surety(0, -1);
-        undone(x, "give", () -> x.give(0, 2));
-        undone(x, "goal", () -> x.goal(2, 19));
-        undone(x, "goal as it is", () -> x.goal(2, 5));
-        undone(x, "rest", () -> x.rest(1));
-        undone(x, "days", () -> x.days(60));
-        undone(x, "a day", () -> x.days(1));
-        Kit.lawOf(x, "fall 99;fall 1");
-        x.days(2);
-        undone(x, "rest of the tired", () -> x.rest(1));
+        Kit.Maker told = Kit.of(THREE).law("slow 1;fall 40;grow 2");
+        Kit.is("none yet", told.make().undo(), false);
+        undone(told, "lend", x -> x.lend(0, 2, 30, 4, 9));
+        undone(told, "pay", x -> x.pay(0));
+        undone(told, "surety", x -> x.surety(0, -1));
+        Kit.Maker unsure = told.then(x -> x.surety(0, -1));
+        undone(unsure, "give", x -> x.give(0, 2));
+        undone(unsure, "goal", x -> x.goal(2, 19));
+        undone(unsure, "goal as it is", x -> x.goal(2, 5));
+        undone(unsure, "rest", x -> x.rest(1));
+        undone(unsure, "days", x -> x.days(60));
+        undone(unsure, "a day", x -> x.days(1));
+        Kit.Maker tired = unsure.law("fall 99;fall 1").then(x -> x.days(2));
+        undone(tired, "rest of the tired", x -> x.rest(1));
+        LaceBonds x = tired.make();
         x.undo();
         Kit.is("nothing is left", x.undo(), false);
     }
 
-    private static void undone(LaceBonds x, String what, Kit.Call act) {
+    private static void undone(Kit.Maker world, String what, Kit.Deed act) {
+        LaceBonds x = world.make();
         int acts = x.count(10);
-        String before = Kit.all(x);
-        act.run();
+        act.on(x);
         Kit.is(what + " is an act", x.count(10), acts + 1);
         Kit.is("undo " + what, x.undo(), true);
-        Kit.is("as ahead of " + what, Kit.all(x), before);
+        Kit.is("as ahead of " + what, Kit.all(x), Kit.all(world.make()));
     }
 
     private static void twelve() {
-        LaceBonds x = Kit.land(THREE);
-        List<String> states = new ArrayList<>();
+        LaceBonds x = twenty(20);
         for (int i = 0; i < 20; i++) {
-            states.add(body(x));
-            Kit.is("acts", x.count(10), Math.min(i, 12));
+            Kit.is("acts", twenty(i).count(10), Math.min(i, 12));
+        }
+        for (int i = 19; i >= 8; i--) {
+            Kit.is("undo " + i, x.undo(), true);
+            Kit.is("left", x.count(10), i - 8);
+            Kit.is("state " + i, body(undone(i)), body(twenty(i)));
+        }
+        Kit.is("the 13th is forgotten", x.undo(), false);
+        Kit.is("nothing happens", body(x), body(twenty(8)));
+    }
+
+    /** So many of twenty acts. */
+    private static LaceBonds twenty(int acts) {
+        LaceBonds x = Kit.land(THREE);
+        for (int i = 0; i < acts; i++) {
             if (i % 4 == 0) {
                 x.days(1);
             } else {
                 x.goal(0, i % 20);
             }
         }
-        for (int i = 19; i >= 8; i--) {
-            Kit.is("undo " + i, x.undo(), true);
-            Kit.is("state " + i, body(x), states.get(i));
-            Kit.is("left", x.count(10), i - 8);
+        return x;
+    }
+
+    /** All twenty, and taken back to so many. */
+    private static LaceBonds undone(int acts) {
+        LaceBonds x = twenty(20);
+        for (int i = 20; i > acts; i--) {
+            x.undo();
         }
-        Kit.is("the 13th is forgotten", x.undo(), false);
-        Kit.is("nothing happens", body(x), states.get(8));
+        return x;
+    }
+
+    private static void undoneAreGone() {
+        LaceBonds x = Kit.land(THREE);
         x.goal(0, 1);
         x.goal(0, 2);
         x.undo();
@@ -75,10 +94,13 @@ public final class MemoryTest {
     private static void forgotten() {
         LaceBonds x = Kit.land(THREE);
         x.goal(0, 1);
-        Kit.wrongAt(x, true, "x", 0);
-        Kit.wrongAt(x, false, "x", 0);
+        Kit.text(x, "x");
+        Kit.refuses("a wrong land", Kit.ARGUMENT, () -> x.land());
+        Kit.text(x, "x");
+        Kit.refuses("a wrong law", Kit.ARGUMENT, () -> x.law());
         Kit.is("a wrong text forgets none", x.count(10), 1);
-        Kit.leaves(x, "an act refused", Kit.INDEX, () -> x.goal(0, 20));
+        Kit.refuses("an act refused", Kit.INDEX, () -> x.goal(0, 20));
+        Kit.is("it forgets none", x.count(10), 1);
         Kit.reads(x, true, "", 2);
         Kit.is("a text: none", x.count(10), 0);
         Kit.is("no undo", x.undo(), false);
@@ -104,7 +126,7 @@ public final class MemoryTest {
         Kit.is("a refused text forgets none", y.count(10), 1);
     }
 
-    private static void images() {
+    private static void imageOfNothing() {
         LaceBonds x = new LaceBonds();
         x.image();
         Kit.text(x, THREE);
@@ -120,6 +142,10 @@ public final class MemoryTest {
         x.land();
         Kit.lawOf(x, "slow 1;fall 40");
         Kit.is("told again", body(x), told);
+    }
+
+    private static void imageOfAll() {
+        LaceBonds x = Kit.lawOf(Kit.land(THREE), "slow 1;fall 40");
         x.seed(5);
         x.lend(2, 3, 9, 1, 50);
         x.days(3);
@@ -138,12 +164,15 @@ public final class MemoryTest {
         Kit.is("but the tape", x.end(20), true);
         Kit.is("and fault", x.fault(), 0);
         Kit.is("the law as it was", x.walks(2, 0), 3);
-        Kit.lawOf(x, "slow 1 if who > 0;slow 2 if who < 1;fall 3 if who > 1");
+    }
+
+    private static void imageOfLaw() {
+        LaceBonds x = Kit.lawOf(Kit.land(THREE), "slow 1 if who > 0;slow 2 if who < 1;fall 3 if who > 1");
         x.image();
         Kit.lawOf(x, "slow 1 if who + 1 + 1 + 1 > 9;slow 2 if who < 1 and who < 2;fall 3");
         x.back();
         Kit.is("each line of the law", x.walks(0, 0) * 100 + x.walks(1, 0) * 10 + x.walks(1, 1), 350);
-        kept = body(x);
+        String kept = body(x);
         x.days(9);
         Kit.is("back again", x.back(), true);
         Kit.is("all as it was again", body(x), kept);

@@ -989,8 +989,9 @@ final class Model {
         return true;
     }
 
-    void image() {
+    boolean image() {
         image = w.copy();
+        return true;
     }
 
     boolean back() {

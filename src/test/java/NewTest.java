@@ -34,8 +34,8 @@ public final class NewTest {
         Kit.is("wear of nobody", x.wear(false), 1);
         Kit.is("sure of nobody", x.wear(true), 0);
         Kit.is("look of nobody", x.look(), -1);
-        Kit.leaves(x, "person 0", Kit.INDEX, () -> x.person(0, 0));
-        Kit.leaves(x, "lace 0", Kit.INDEX, () -> x.lace(0, 0));
+        Kit.leaves(LaceBonds::new, "person 0", Kit.INDEX, y -> y.person(0, 0));
+        Kit.leaves(LaceBonds::new, "lace 0", Kit.INDEX, y -> y.lace(0, 0));
         Kit.is("days", x.days(3), 0);
         Kit.is("day", x.count(3), 3);
         Kit.close("NewTest");

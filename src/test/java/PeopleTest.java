@@ -81,18 +81,19 @@ public final class PeopleTest {
     }
 
     private static void refusals() {
-        LaceBonds x = Kit.land("person 9 pace 1 at 0;person 9 pace 1 at 0;mud 19 3;mud 0 2");
-        Kit.leaves(x, "person -1", Kit.INDEX, () -> x.person(-1, 0));
-        Kit.leaves(x, "person 2", Kit.INDEX, () -> x.person(2, 99));
-        Kit.leaves(x, "person what 11", Kit.ELEMENT, () -> x.person(1, 11));
-        Kit.leaves(x, "person what -1", Kit.ELEMENT, () -> x.person(0, -1));
-        Kit.leaves(x, "lace -1", Kit.INDEX, () -> x.lace(-1, 0));
-        Kit.leaves(x, "lace 4", Kit.INDEX, () -> x.lace(4, 9));
-        Kit.leaves(x, "lace far", Kit.INDEX, () -> x.lace(Integer.MAX_VALUE, 0));
-        Kit.leaves(x, "lace what 6", Kit.ELEMENT, () -> x.lace(3, 6));
-        Kit.leaves(x, "lace what -1", Kit.ELEMENT, () -> x.lace(0, -1));
-        Kit.leaves(x, "mud -1", Kit.INDEX, () -> x.mud(-1));
-        Kit.leaves(x, "mud 20", Kit.INDEX, () -> x.mud(20));
+        Kit.Maker world = Kit.of("person 9 pace 1 at 0;person 9 pace 1 at 0;mud 19 3;mud 0 2");
+        Kit.leaves(world, "person -1", Kit.INDEX, x -> x.person(-1, 0));
+        Kit.leaves(world, "person 2", Kit.INDEX, x -> x.person(2, 99));
+        Kit.leaves(world, "person what 11", Kit.ELEMENT, x -> x.person(1, 11));
+        Kit.leaves(world, "person what -1", Kit.ELEMENT, x -> x.person(0, -1));
+        Kit.leaves(world, "lace -1", Kit.INDEX, x -> x.lace(-1, 0));
+        Kit.leaves(world, "lace 4", Kit.INDEX, x -> x.lace(4, 9));
+        Kit.leaves(world, "lace far", Kit.INDEX, x -> x.lace(Integer.MAX_VALUE, 0));
+        Kit.leaves(world, "lace what 6", Kit.ELEMENT, x -> x.lace(3, 6));
+        Kit.leaves(world, "lace what -1", Kit.ELEMENT, x -> x.lace(0, -1));
+        Kit.leaves(world, "mud -1", Kit.INDEX, x -> x.mud(-1));
+        Kit.leaves(world, "mud 20", Kit.INDEX, x -> x.mud(20));
+        LaceBonds x = world.make();
         Kit.is("mud 19", x.mud(19), 3);
         Kit.is("mud 0", x.mud(0), 2);
         Kit.is("mud 1", x.mud(1), 0);

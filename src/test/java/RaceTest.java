@@ -73,13 +73,13 @@ public final class RaceTest {
     }
 
     private static void refusals() {
-        LaceBonds x = Kit.land("person 5 pace 5 at 0;person 20 pace 7 at 0");
+        Kit.Maker world = Kit.of("person 5 pace 5 at 0;person 20 pace 7 at 0");
         for (int p : new int[] {-1, 2, Integer.MIN_VALUE, Integer.MAX_VALUE}) {
-            Kit.leaves(x, "race " + p, Kit.INDEX, () -> x.race(p));
-            Kit.leaves(x, "loose " + p, Kit.INDEX, () -> x.loose(p));
+            Kit.leaves(world, "race " + p, Kit.INDEX, x -> x.race(p));
+            Kit.leaves(world, "loose " + p, Kit.INDEX, x -> x.loose(p));
         }
         for (int amount : new int[] {0, -1, 1000, Integer.MAX_VALUE}) {
-            Kit.leaves(x, "lends " + amount, Kit.ARGUMENT, () -> x.lends(amount));
+            Kit.leaves(world, "lends " + amount, Kit.ARGUMENT, x -> x.lends(amount));
         }
     }
 

@@ -92,14 +92,14 @@ public final class TapeTest {
         Kit.reads(x, true, " ".repeat(400), 1);
         Kit.reads(x, true, " ".repeat(395) + "day 7", 2);
         Kit.is("day 7", x.count(3), 7);
-        Kit.wrongAt(x, true, " ".repeat(394) + "day 7;", 400);
-        Kit.wrongAt(x, true, " ".repeat(397) + "day", 400);
+        Kit.wrongAt(LaceBonds::new, true, " ".repeat(394) + "day 7;", 400);
+        Kit.wrongAt(LaceBonds::new, true, " ".repeat(397) + "day", 400);
         Kit.reads(x, false, "slow 1 if even" + " and even".repeat(42) + "        ", 1);
         Kit.reads(x, false, "slow 1 if 1" + "+1".repeat(193) + "<1", 1);
-        Kit.wrongAt(x, false, "slow 1 if 1" + "+1".repeat(194) + "<", 400);
-        Kit.wrongAt(x, false, "slow 1 if 1" + "+1".repeat(194) + "+", 400);
-        Kit.wrongAt(x, false, " slow 1 if " + "(".repeat(389), 17);
-        Kit.wrongAt(x, false, "slow 1 if not(" + "x".repeat(386), 14);
+        Kit.wrongAt(LaceBonds::new, false, "slow 1 if 1" + "+1".repeat(194) + "<", 400);
+        Kit.wrongAt(LaceBonds::new, false, "slow 1 if 1" + "+1".repeat(194) + "+", 400);
+        Kit.wrongAt(LaceBonds::new, false, " slow 1 if " + "(".repeat(389), 17);
+        Kit.wrongAt(LaceBonds::new, false, "slow 1 if not(" + "x".repeat(386), 14);
     }
 
     /** With 380 bytes twenty more fit, with 381 none do, and what there was is as it was. */
@@ -156,18 +156,18 @@ public final class TapeTest {
     private static void usedUp() {
         Kit.sentence("Uses the TAPE up");
         LaceBonds x = Kit.land("person 1 pace 1 at 1");
-        Kit.is("by a land", Kit.sizeOfTape(x), 0);
+        Kit.is("by a land", x.end(1), false);
         Kit.reads(x, false, "slow 1", 1);
-        Kit.is("by a law", Kit.sizeOfTape(x), 0);
+        Kit.is("by a law", x.end(1), false);
         Kit.tape(x, 1);
         Kit.is("carry", x.carry(0), 0);
-        Kit.is("by carry", Kit.sizeOfTape(x), 0);
+        Kit.is("by carry", x.end(1), false);
         Kit.tape(x, 0, 0, 1);
         Kit.is("wear", x.wear(false), 1);
-        Kit.is("by wear", Kit.sizeOfTape(x), 0);
+        Kit.is("by wear", x.end(1), false);
         Kit.tape(x, 0, 0, 1);
         Kit.is("look", x.look(), -1);
-        Kit.is("by look", Kit.sizeOfTape(x), 0);
+        Kit.is("by look", x.end(1), false);
         Kit.is("an empty text behind it", x.land(), 2);
         Kit.is("an empty law", x.law(), 0);
         Kit.is("no rows", x.wear(false), 2);

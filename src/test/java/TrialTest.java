@@ -11,22 +11,15 @@ public final class TrialTest {
     }
 
     private static void trials() {
-        LaceBonds x = Kit.lawOf(Kit.land(THREE), "fall 50");
         for (int seed : new int[] {1, 5, 1234567, -9}) {
-            x.seed(seed);
-            String before = Kit.all(x);
+            Kit.Maker told = Kit.of(THREE).law("fall 50").then(x -> x.seed(seed));
             for (int n = 1; n <= 60; n += 7) {
-                int fell = x.trial(n, false);
-                int lost = x.trial(n, true);
-                Kit.is("nothing stays", Kit.all(x), before);
-                Kit.is("days after a trial fall alike", x.days(n), fell);
-                Kit.is("and lose alike", x.rail(), lost);
-                x.undo();
+                trial(told, n);
             }
-            Kit.is("by 0", x.trial(0, false), 0);
-            Kit.is("by 0, lost", x.trial(0, true), 0);
+            Kit.asks(told, "by 0", 0, x -> x.trial(0, false));
+            Kit.asks(told, "by 0, lost", 0, x -> x.trial(0, true));
         }
-        Kit.lawOf(x, "fall 99;fall 1");
+        LaceBonds x = Kit.lawOf(Kit.land(THREE), "fall 99;fall 1");
         Kit.is("all fall", x.trial(10, false), 20);
         Kit.is("ahead of the term", x.trial(2, true), 0);
         Kit.is("the second is lost first", x.trial(3, true), 8);
@@ -37,11 +30,20 @@ public final class TrialTest {
         Kit.is("falls of those days alone", x.trial(3, false), 6);
     }
 
+    private static void trial(Kit.Maker told, int n) {
+        LaceBonds x = told.make();
+        int fell = x.days(n);
+        int lost = x.rail();
+        Kit.asks(told, "days fall as by a trial of " + n, fell, y -> y.trial(n, false));
+        Kit.asks(told, "and lose alike", lost, y -> y.trial(n, true));
+    }
+
     private static void spans() {
         for (int by = 5; by < 100; by += 10) {
-            LaceBonds x = Kit.lawOf(Kit.land(THREE), "fall " + by);
-            x.days(1);
-            spansAsTrials(x);
+            Kit.Maker told = Kit.of(THREE).law("fall " + by).then(x -> x.days(1)).then(x -> x.seed(99));
+            for (int n = 1; n <= 60; n += 7) {
+                spanAsTrials(told, n);
+            }
         }
         LaceBonds x = Kit.lawOf(Kit.land(THREE), "fall 50");
         Kit.is("by 0", x.span(0, false), 0);
@@ -54,30 +56,25 @@ public final class TrialTest {
         Kit.is("and not all", x.span(2, true), x.trial(2, false));
     }
 
-    private static void spansAsTrials(LaceBonds x) {
-        for (int n = 1; n <= 60; n += 7) {
-            int least = Integer.MAX_VALUE;
-            int most = -1;
-            for (int seed = 1; seed <= 6; seed++) {
-                x.seed(seed);
-                least = Math.min(least, x.trial(n, false));
-                most = Math.max(most, x.trial(n, false));
-            }
-            x.seed(99);
-            String before = Kit.all(x);
-            Kit.is("the fewest by " + n, x.span(n, false), least);
-            Kit.is("the most by " + n, x.span(n, true), most);
-            Kit.is("nothing stays", Kit.all(x), before);
+    private static void spanAsTrials(Kit.Maker told, int n) {
+        int least = Integer.MAX_VALUE;
+        int most = -1;
+        LaceBonds x = told.make();
+        for (int seed = 1; seed <= 6; seed++) {
+            x.seed(seed);
+            least = Math.min(least, x.trial(n, false));
+            most = Math.max(most, x.trial(n, false));
         }
+        Kit.asks(told, "the fewest by " + n, least, y -> y.span(n, false));
+        Kit.asks(told, "the most by " + n, most, y -> y.span(n, true));
     }
 
     private static void refusals() {
-        LaceBonds x = Kit.land(THREE);
         for (int n : new int[] {-1, 61, Integer.MIN_VALUE, Integer.MAX_VALUE}) {
-            Kit.leaves(x, "trial " + n, Kit.ARGUMENT, () -> x.trial(n, false));
-            Kit.leaves(x, "trial lost " + n, Kit.ARGUMENT, () -> x.trial(n, true));
-            Kit.leaves(x, "span " + n, Kit.ARGUMENT, () -> x.span(n, false));
-            Kit.leaves(x, "span most " + n, Kit.ARGUMENT, () -> x.span(n, true));
+            Kit.leaves(Kit.of(THREE), "trial " + n, Kit.ARGUMENT, x -> x.trial(n, false));
+            Kit.leaves(Kit.of(THREE), "trial lost " + n, Kit.ARGUMENT, x -> x.trial(n, true));
+            Kit.leaves(Kit.of(THREE), "span " + n, Kit.ARGUMENT, x -> x.span(n, false));
+            Kit.leaves(Kit.of(THREE), "span most " + n, Kit.ARGUMENT, x -> x.span(n, true));
         }
     }
 }

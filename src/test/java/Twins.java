@@ -3,10 +3,6 @@
  * undone, THE IMAGE and the TAPE of both are looked at, each on twins of their own, so that none is used for 512 calls.
  */
 final class Twins {
-    interface Deed {
-        Object on(LaceBonds x);
-    }
-
     interface Look {
         String at(LaceBonds x);
     }
@@ -28,32 +24,32 @@ final class Twins {
     }
 
     /** A call that is refused and does not use the TAPE. */
-    static void refused(String what, String exception, Deed deed) {
+    static void refused(String what, String exception, Kit.Deed deed) {
         untouched(what, "throws " + exception, deed, 11, false);
     }
 
     /** A call that is refused and uses the TAPE up, and so does one that tells the TAPE ahead of it. */
-    static void refusedWithTape(String what, String exception, int fault, Deed deed) {
+    static void refusedWithTape(String what, String exception, int fault, Kit.Deed deed) {
         untouched(what, "throws " + exception, deed, fault, true);
     }
 
     /** A question, or a call in which nothing happens. */
-    static void asked(String what, Object due, Deed deed) {
+    static void asked(String what, Object due, Kit.Deed deed) {
         untouched(what, due, deed, 11, false);
     }
 
-    static void askedWithTape(String what, Object due, Deed deed) {
+    static void askedWithTape(String what, Object due, Kit.Deed deed) {
         untouched(what, due, deed, 11, true);
     }
 
-    private static void untouched(String what, Object due, Deed deed, int fault, boolean tape) {
+    private static void untouched(String what, Object due, Kit.Deed deed, int fault, boolean tape) {
         same(what, "all", due, deed, fault, tape, Kit::all);
         same(what, "what is undone", due, deed, fault, tape, Twins::undone);
         same(what, "the image", due, deed, fault, tape, x -> x.back() + brief(x));
         same(what, "the tape", due, deed, fault, tape, Twins::tape);
     }
 
-    private static void same(String what, String of, Object due, Deed deed, int fault, boolean tape, Look look) {
+    private static void same(String what, String of, Object due, Kit.Deed deed, int fault, boolean tape, Look look) {
         LaceBonds one = make();
         LaceBonds other = make();
         Kit.is(what, Kit.answer(() -> deed.on(one)), due);

@@ -59,45 +59,46 @@ public final class WaysTest {
     }
 
     private static void carrying() {
-        LaceBonds x = Kit.land("person 10 pace 1 at 0;person 10 pace 2 at 10;person 10 pace 5 at 19");
-        carry(x, 0, new int[] {0, 1, 2}, 0, 10, 19);
-        carry(x, 0, new int[] {1, 2, 0}, 19, 0, 10);
+        Kit.Maker three = Kit.of("person 10 pace 1 at 0;person 10 pace 2 at 10;person 10 pace 5 at 19");
+        carry(three, 0, new int[] {0, 1, 2}, 0, 10, 19);
+        carry(three, 0, new int[] {1, 2, 0}, 19, 0, 10);
         // 0 to 0, 1 to 0 by 5 days, 2 to 0 by 4
-        carry(x, 9, new int[] {0, 1, 2}, 0, 0, 0);
+        carry(three, 9, new int[] {0, 1, 2}, 0, 0, 0);
         // all at 19 and 18 and 0: 0 stays at 0, 1 to 18 by 4, 2 stays
-        carry(x, 4, new int[] {2, 0, 1}, 18, 19, 0);
-        Kit.lawOf(x, "slow 9");
-        carry(x, 0, new int[] {1, 2, 0}, 19, 0, 10);
-        carry(x, -1, new int[] {-1, -1, -1}, 19, 0, 11);
-        carry(x, -1, new int[] {-1, -1, -1}, 0, 0, 10);
-        Kit.lawOf(x, "slow 9 if who < 1");
+        carry(three, 4, new int[] {2, 0, 1}, 18, 19, 0);
+        Kit.Maker stopped = three.law("slow 9");
+        carry(stopped, 0, new int[] {1, 2, 0}, 19, 0, 10);
+        carry(stopped, -1, new int[] {-1, -1, -1}, 19, 0, 11);
+        carry(stopped, -1, new int[] {-1, -1, -1}, 0, 0, 10);
         // 0 must stay, though 2 could come to 0 more cheaply than to 5
-        carry(x, 4, new int[] {1, 2, 0}, 15, 0, 5);
-        LaceBonds one = Kit.land("person 1 pace 9 at 9");
+        carry(three.law("slow 9 if who < 1"), 4, new int[] {1, 2, 0}, 15, 0, 5);
+        Kit.Maker one = Kit.of("person 1 pace 9 at 9");
         carry(one, 1, new int[] {0}, 0);
-        Kit.tape(one, 9, 255);
-        one.end(1);
-        Kit.is("what is cut off does not count", one.carry(-1), 0);
-        one.image();
-        Kit.text(one, "person 1 pace 1 at 9;person 1 pace 2 at 9");
-        one.land();
-        carry(one, 6, new int[] {2, 1, 0}, 17, 10, 0);
-        one.back();
-        carry(one, 2, new int[] {0}, 19);
+        LaceBonds x = one.make();
+        Kit.tape(x, 9, 255);
+        x.end(1);
+        Kit.is("what is cut off does not count", x.carry(-1), 0);
+        Kit.Maker more = one.then(y -> {
+            y.image();
+            return y;
+        }).then(y -> {
+            Kit.text(y, "person 1 pace 1 at 9;person 1 pace 2 at 9");
+            return y.land();
+        });
+        carry(more, 6, new int[] {2, 1, 0}, 17, 10, 0);
+        carry(more.then(y -> y.back()), 2, new int[] {0}, 19);
     }
 
     /** Of ways that cost the same: PERSON 0 the least that can be, then 1, and so on. */
     private static void carryingTies() {
-        LaceBonds x = Kit.land("person 1 pace 1 at 5;person 1 pace 1 at 5;person 1 pace 1 at 5;person 1 pace 1 at 5");
-        carry(x, 10, new int[] {0, 1, 2, 3}, 5, 10, 0, 5);
-        carry(x, 4, new int[] {0, 1, 2, 3}, 6, 4, 6, 4);
-        Kit.lawOf(x, "slow 1 if who > 2 and place + day > 5");
+        String four = "person 1 pace 1 at 5;person 1 pace 1 at 5;person 1 pace 1 at 5;person 1 pace 1 at 5";
+        carry(Kit.of(four), 10, new int[] {0, 1, 2, 3}, 5, 10, 0, 5);
+        carry(Kit.of(four), 4, new int[] {0, 1, 2, 3}, 6, 4, 6, 4);
+        Kit.Maker slowed = Kit.of(four).law("slow 1 if who > 2 and place + day > 5");
         // 3 comes to 6 or to any place below 5, as each day takes away what the place was less
-        carry(x, 11, new int[] {0, 1, 2, 3}, 5, 10, 0, 6);
-        carry(x, 15, new int[] {0, 1, 3, 2}, 0, 6, 1, 10);
-        Kit.text(x, "person 1 pace 1 at 5;person 1 pace 1 at 5");
-        x.land();
-        carry(x, 0, new int[] {0, 1, 2, 3, 4, 5}, 5, 5, 5, 5, 5, 5);
+        carry(slowed, 11, new int[] {0, 1, 2, 3}, 5, 10, 0, 6);
+        carry(slowed, 15, new int[] {0, 1, 3, 2}, 0, 6, 1, 10);
+        carry(Kit.of(four, "person 1 pace 1 at 5;person 1 pace 1 at 5"), 0, new int[] {0, 1, 2, 3, 4, 5}, 5, 5, 5, 5, 5, 5);
     }
 
     private static void aheads() {
@@ -118,42 +119,49 @@ public final class WaysTest {
     }
 
     private static void refusals() {
-        LaceBonds x = Kit.land("person 10 pace 5 at 0;person 10 pace 1 at 19");
-        Kit.leaves(x, "comes -1", Kit.INDEX, () -> x.comes(-1, 0));
-        Kit.leaves(x, "comes 2", Kit.INDEX, () -> x.comes(2, 0));
-        Kit.leaves(x, "comes to -1", Kit.INDEX, () -> x.comes(0, -1));
-        Kit.leaves(x, "comes to 20", Kit.INDEX, () -> x.comes(0, 20));
-        Kit.leaves(x, "soonest -1", Kit.INDEX, () -> x.soonest(-1));
-        Kit.leaves(x, "soonest 20", Kit.INDEX, () -> x.soonest(20));
-        Kit.leaves(x, "ahead of 2", Kit.INDEX, () -> x.ahead(2, 61, false));
-        Kit.leaves(x, "ahead of -1", Kit.INDEX, () -> x.ahead(-1, 1, false));
-        Kit.leaves(x, "ahead by -1", Kit.ARGUMENT, () -> x.ahead(0, -1, false));
-        Kit.leaves(x, "ahead by 61", Kit.ARGUMENT, () -> x.ahead(1, 61, true));
-        notCarried(x, 2, Kit.INDEX, 1, 2);
-        notCarried(x, -2, Kit.INDEX, 1, 2);
-        notCarried(x, 2, Kit.INDEX, 1);
-        notCarried(x, -1, Kit.ARGUMENT, 1);
-        notCarried(x, 0, Kit.ARGUMENT, 1, 2, 3);
-        notCarried(x, 0, Kit.ARGUMENT);
-        notCarried(x, 0, Kit.ARGUMENT, 1, 20);
-        notCarried(x, 0, Kit.ARGUMENT, 255, 1);
+        Kit.Maker two = Kit.of("person 10 pace 5 at 0;person 10 pace 1 at 19");
+        Kit.leaves(two, "comes -1", Kit.INDEX, x -> x.comes(-1, 0));
+        Kit.leaves(two, "comes 2", Kit.INDEX, x -> x.comes(2, 0));
+        Kit.leaves(two, "comes to -1", Kit.INDEX, x -> x.comes(0, -1));
+        Kit.leaves(two, "comes to 20", Kit.INDEX, x -> x.comes(0, 20));
+        Kit.leaves(two, "soonest -1", Kit.INDEX, x -> x.soonest(-1));
+        Kit.leaves(two, "soonest 20", Kit.INDEX, x -> x.soonest(20));
+        Kit.leaves(two, "ahead of 2", Kit.INDEX, x -> x.ahead(2, 61, false));
+        Kit.leaves(two, "ahead of -1", Kit.INDEX, x -> x.ahead(-1, 1, false));
+        Kit.leaves(two, "ahead by -1", Kit.ARGUMENT, x -> x.ahead(0, -1, false));
+        Kit.leaves(two, "ahead by 61", Kit.ARGUMENT, x -> x.ahead(1, 61, true));
+        notCarried(two, 2, Kit.INDEX, 1, 2);
+        notCarried(two, -2, Kit.INDEX, 1, 2);
+        notCarried(two, 2, Kit.INDEX, 1);
+        notCarried(two, -1, Kit.ARGUMENT, 1);
+        notCarried(two, 0, Kit.ARGUMENT, 1, 2, 3);
+        notCarried(two, 0, Kit.ARGUMENT);
+        notCarried(two, 0, Kit.ARGUMENT, 1, 20);
+        notCarried(two, 0, Kit.ARGUMENT, 255, 1);
     }
 
-    private static void notCarried(LaceBonds x, int person, String exception, int... places) {
-        Kit.tape(x, places);
-        Kit.leaves(x, "carry " + person + " with " + places.length, exception, () -> x.carry(person));
+    private static void notCarried(Kit.Maker world, int person, String exception, int... places) {
+        String name = "carry " + person + " with " + places.length;
+        Kit.leaves(told(world, places), name, exception, x -> x.carry(person));
+        LaceBonds x = told(world, places).make();
+        Kit.refuses(name, exception, () -> x.carry(person));
         Kit.is("the tape is used up", x.end(1), false);
     }
 
-    private static void carry(LaceBonds x, int much, int[] ways, int... places) {
-        String before = Kit.all(x);
-        Kit.tape(x, places);
-        Kit.is("carry to " + java.util.Arrays.toString(places), x.carry(-1), much);
-        Kit.is("the tape is used up", x.end(1), false);
-        for (int p = 0; p < ways.length; p++) {
+    private static Kit.Maker told(Kit.Maker world, int... places) {
+        return world.then(x -> {
             Kit.tape(x, places);
-            Kit.is("carry of " + p + " to " + java.util.Arrays.toString(places), x.carry(p), ways[p]);
+            return x;
+        });
+    }
+
+    private static void carry(Kit.Maker world, int much, int[] ways, int... places) {
+        String to = " to " + java.util.Arrays.toString(places);
+        Kit.asks(told(world, places), "carry" + to, much, x -> x.carry(-1));
+        Kit.asks(told(world, places), "the tape is used up", false, x -> x.carry(-1) >= -1 && x.end(1));
+        for (int p = 0; p < ways.length; p++) {
+            int one = p;
+            Kit.asks(told(world, places), "carry of " + p + to, ways[p], x -> x.carry(one));
         }
-        Kit.is("nothing stays", Kit.all(x), before);
     }
 }

@@ -22,7 +22,7 @@ public final class CallsTest {
             + "        if (called > 512) {\n            throw new AssertionError(\"an object is called more than 512 times\");\n        }\n    }\n";
 
     /** They look at the class itself, which the copy is not. */
-    private static final List<String> OF_THE_CLASS = List.of("CallsTest", "FaceTest", "LanguageTest");
+    private static final List<String> OF_THE_CLASS = List.of("CallsTest", "FaceTest", "LanguageTest", "ReadmeTest");
 
     public static void main(String[] args) throws Exception {
         Kit.sentence("An object is used for at most 512 calls after it has been made; what later calls answer is free.");
@@ -34,7 +34,7 @@ public final class CallsTest {
                 Kit.is(name, end(name, copy), "ends");
             }
         } finally {
-            delete(copy);
+            Kit.delete(copy);
         }
         Kit.close("CallsTest");
     }
@@ -84,14 +84,6 @@ public final class CallsTest {
             return e.getCause() + " " + List.of(e.getCause().getStackTrace());
         } finally {
             System.setOut(out);
-        }
-    }
-
-    private static void delete(Path dir) throws IOException {
-        try (Stream<Path> files = Files.walk(dir)) {
-            for (Path file : files.sorted((a, b) -> b.compareTo(a)).toList()) {
-                Files.delete(file);
-            }
         }
     }
 }

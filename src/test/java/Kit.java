@@ -2,6 +2,7 @@ import java.io.IOException;
 import java.io.UncheckedIOException;
 import java.nio.file.Files;
 import java.nio.file.Path;
+import java.util.stream.Stream;
 
 /** What all tests share: texts onto the TAPE, answers compared, exceptions named. */
 final class Kit {
@@ -203,6 +204,15 @@ final class Kit {
         int seed = x.seed(0);
         x.seed(seed);
         return out.append("\nseed ").append(seed).toString();
+    }
+
+    /** A directory with all that is in it. */
+    static void delete(Path dir) throws IOException {
+        try (Stream<Path> files = Files.walk(dir)) {
+            for (Path file : files.sorted((a, b) -> b.compareTo(a)).toList()) {
+                Files.delete(file);
+            }
+        }
     }
 
     static void close(String name) {
